@@ -1,0 +1,25 @@
+/** Runs whole programs and compares how they ended and what they printed. */
+final class Runs {
+    private final Answers answers;
+
+    Runs(Answers answers) {
+        this.answers = answers;
+    }
+
+    ChannelProgramRunner due(int state, String outputs, String text) {
+        ChannelProgramRunner x = Program.ended(text);
+        answers.due("state of " + text, state, x.run(0));
+        String got = Program.outputs(x);
+        if (!got.equals(outputs)) {
+            System.out.println("printed " + got + ", due is " + outputs);
+        }
+        answers.due("outputs of " + text, true, got.equals(outputs));
+        return x;
+    }
+
+    ChannelProgramRunner panic(int value, String outputs, String text) {
+        ChannelProgramRunner x = due(ChannelProgramRunner.PANICKED, outputs, text);
+        answers.due("panicValue() of " + text, value, x.panicValue());
+        return x;
+    }
+}
