@@ -12,6 +12,12 @@ public final class ChannelProgramRunner {
     private static final int VARIABLES = 6, MAX_PARAMETERS = 2;
     private static final int MAX_GOROUTINES = 12, MAX_DEPTH = 4, MAX_NOTES = 3;
     private static final int MAX_CHANNELS = 8, MAX_CAPACITY = 3, CLOSED_MARK = 8;
+    private static final int SLOTS = MAX_GOROUTINES * MAX_CASES;
+    private static final int ACTIVATIONS = MAX_GOROUTINES * MAX_DEPTH;
+    private static final int ALL_VARIABLES = ACTIVATIONS * VARIABLES;
+    private static final int ALL_NOTES = ACTIVATIONS * MAX_NOTES;
+    private static final int ALL_NOTE_VALUES = ALL_NOTES * MAX_PARAMETERS;
+    private static final int ALL_HELD = MAX_CHANNELS * MAX_CAPACITY;
     private static final int KEPT_OUTPUT = 32;
     // One step moves over a few thousand marks at the very most.
     private static final int MOVES_BOUND = 1000000;
@@ -56,7 +62,7 @@ public final class ChannelProgramRunner {
     private final int[] capacity = new int[MAX_CHANNELS];
     private final int[] fill = new int[MAX_CHANNELS];
     private final boolean[] closed = new boolean[MAX_CHANNELS];
-    private final int[] held = new int[MAX_CHANNELS * MAX_CAPACITY];
+    private final int[] held = new int[ALL_HELD];
     private int channelCount;
 
     private final int[] status = new int[MAX_GOROUTINES];
@@ -72,18 +78,17 @@ public final class ChannelProgramRunner {
     // A slot for each case of a waiting goroutine: the channel's number to receive, its negative to
     // send, 0 for nothing. It is told when the wait begins, since a value that is no channel then
     // stays without events even if a channel of that number is made later.
-    private final int[] slotWish = new int[MAX_GOROUTINES * MAX_CASES];
-    private final int[] slotLine = new int[MAX_GOROUTINES * MAX_CASES];
+    private final int[] slotWish = new int[SLOTS];
+    private final int[] slotLine = new int[SLOTS];
 
     // Activation d of goroutine g is at index g * MAX_DEPTH + d.
-    private final int[] position = new int[MAX_GOROUTINES * MAX_DEPTH];
-    private final int[] mode = new int[MAX_GOROUTINES * MAX_DEPTH];
-    private final int[] panicOf = new int[MAX_GOROUTINES * MAX_DEPTH];
-    private final boolean[] calledAsNote = new boolean[MAX_GOROUTINES * MAX_DEPTH];
-    private final int[] noteCount = new int[MAX_GOROUTINES * MAX_DEPTH];
-    private final int[] noteFunction = new int[MAX_GOROUTINES * MAX_DEPTH * MAX_NOTES];
-    private final int[] noteValues = new int[MAX_GOROUTINES * MAX_DEPTH * MAX_NOTES * MAX_PARAMETERS];
-    private final int[] variables = new int[MAX_GOROUTINES * MAX_DEPTH * VARIABLES];
+    private final int[] position = new int[ACTIVATIONS];
+    private final int[] mode = new int[ACTIVATIONS];
+    private final int[] panicOf = new int[ACTIVATIONS];
+    private final int[] noteCount = new int[ACTIVATIONS];
+    private final int[] noteFunction = new int[ALL_NOTES];
+    private final int[] noteValues = new int[ALL_NOTE_VALUES];
+    private final int[] variables = new int[ALL_VARIABLES];
 
     public ChannelProgramRunner() {
         lineCount = 0;
@@ -513,17 +518,15 @@ public final class ChannelProgramRunner {
         status[g] = READY;
         depth[g] = 0;
         forgetWait(g);
-        enter(g, function, x, y, false);
+        enter(g, function, x, y);
         return g;
     }
 
-    private void enter(int g, int function, int x, int y, boolean asNote) {
+    private void enter(int g, int function, int x, int y) {
         int t = g * MAX_DEPTH + depth[g];
         depth[g]++;
         position[t] = functionLine[function];
         mode[t] = EXECUTES;
-        panicOf[t] = 0;
-        calledAsNote[t] = asNote;
         noteCount[t] = 0;
         for (int v = 0; v < VARIABLES; v++) {
             variables[t * VARIABLES + v] = 0;
@@ -653,9 +656,10 @@ public final class ChannelProgramRunner {
         panicOf[t] = value;
     }
 
+    // One that panics calls nothing but its notes, so an activation right above it is a note's.
     private void recover(int t, int at) {
         int recovered = 0;
-        if (calledAsNote[t] && mode[t - 1] == PANICS) {
+        if (depth[running] > 1 && mode[t - 1] == PANICS) {
             recovered = panicOf[t - 1];
             mode[t - 1] = LEAVES;
         }
@@ -676,7 +680,7 @@ public final class ChannelProgramRunner {
             state = OVERFLOW;
             return;
         }
-        enter(running, function, x, y, false);
+        enter(running, function, x, y);
     }
 
     private void note(int t, int function, int x, int y) {
@@ -996,7 +1000,8 @@ public final class ChannelProgramRunner {
         }
         noteCount[t]--;
         int n = t * MAX_NOTES + noteCount[t];
-        enter(running, noteFunction[n], noteValues[n * MAX_PARAMETERS], noteValues[n * MAX_PARAMETERS + 1], true);
+        int v = n * MAX_PARAMETERS;
+        enter(running, noteFunction[n], noteValues[v], noteValues[v + 1]);
     }
 
     private void endGoroutine(int g, int t) {

@@ -1,5 +1,7 @@
 /** Counts and prints the answers that are not as due. */
 final class Answers {
+    private static final int MOST_PRINTED = 50;
+
     private int asked = 0;
     private int wrong = 0;
 
@@ -7,6 +9,9 @@ final class Answers {
         asked++;
         if (got != want) {
             wrong++;
+            if (wrong > MOST_PRINTED) {
+                return;
+            }
             System.out.println(what + " answered " + got + ", due is " + want);
         }
     }

@@ -13,6 +13,7 @@ public final class ChannelTest {
         noChannel();
         closes();
         closeWakes();
+        closeTellsReceivers();
         readyAndWaiting();
         answers.finish();
     }
@@ -163,6 +164,22 @@ public final class ChannelTest {
         answers.due("waitsAt(0)", 6, y.waitsAt(0));
         answers.due("waitsAt(1)", -2, y.waitsAt(1));
         answers.due("clock()", 0, y.clock());
+    }
+
+    private static void closeTellsReceivers() {
+        // Both VARs become 0 at once, whatever they were.
+        ChannelProgramRunner x = Program.ready("FUNC 0; MAKE v0 0; GO 1 v0; SLEEP #0; CLOSE v0; SLEEP #1; END; FUNC 1; SET v1 #8; SET v2 #9; RECV v1 v0 v2; END");
+        x.run(8);
+        answers.due("variable(1, 1) when waiting", 8, x.variable(1, 1));
+        answers.due("variable(1, 2) when waiting", 9, x.variable(1, 2));
+        x.run(1);
+        answers.due("variable(1, 1) after CLOSE", 0, x.variable(1, 1));
+        answers.due("variable(1, 2) after CLOSE", 0, x.variable(1, 2));
+        answers.due("waitsAt(1) after CLOSE", -3, x.waitsAt(1));
+        // The panic of a CLOSE comes once.
+        runs.due(EXITED, "-1 7 8", "FUNC 0; MAKE v0 0; GO 1 v0; SLEEP #0; CLOSE v0; SLEEP #2; END;"
+                + "FUNC 1; CALL 2 v0; PRINT #7; SLEEP #0; PRINT #8; END;"
+                + "FUNC 1; DEFER 3; SEND v0 #1; END; FUNC 0; RECOVER v0; PRINT v0; END");
     }
 
     private static void readyAndWaiting() {

@@ -16,6 +16,7 @@ public final class CheckTest {
         unsetSelects();
         orderOfFaults();
         readyAfterOk();
+        sameAgain();
         badLineStays();
         answers.finish();
     }
@@ -234,6 +235,49 @@ public final class CheckTest {
         answers.due("panicValue() after check()", 0, y.panicValue());
         answers.due("run(2)", ChannelProgramRunner.PANICKED, y.run(2));
         answers.due("panicValue() again", 7, y.panicValue());
+    }
+
+    /** Leaves a program after some steps, checks it again and compares it with a new one, step by step. */
+    private static void dueAgain(int steps, String text) {
+        ChannelProgramRunner x = Program.ready(text);
+        x.run(steps);
+        answers.due("check() again", OK, x.check());
+        ChannelProgramRunner y = Program.ready(text);
+        for (int i = 0; i < 60; i++) {
+            String what = " in step " + i + " after " + steps + " steps of " + text;
+            for (int g = 0; g < 13; g++) {
+                answers.due("waitsAt(" + g + ")" + what, y.waitsAt(g), x.waitsAt(g));
+                answers.due("notes(" + g + ")" + what, y.notes(g), x.notes(g));
+                answers.due("panicking(" + g + ")" + what, y.panicking(g), x.panicking(g));
+                answers.due("channel(" + g + ")" + what, y.channel(g), x.channel(g));
+                answers.due("output(" + g + ")" + what, y.output(g), x.output(g));
+                for (int v = 0; v < 6; v++) {
+                    answers.due("variable(" + g + ", " + v + ")" + what, y.variable(g, v), x.variable(g, v));
+                }
+            }
+            answers.due("clock()" + what, y.clock(), x.clock());
+            answers.due("printed()" + what, y.printed(), x.printed());
+            answers.due("run(1)" + what, y.run(1), x.run(1));
+        }
+        answers.due("panicValue() after " + text, y.panicValue(), x.panicValue());
+    }
+
+    private static void sameAgain() {
+        String[] texts = {
+            "FUNC 0; GO 1 #1; GO 1 #2; GO 1 #3; SLEEP #0; SET v4 #3; GO 1 #4; SLEEP #0; END; FUNC 1; PRINT v0; SLEEP v0; SET v3 #8; END",
+            "FUNC 0; MAKE v0 3; SEND v0 #1; SEND v0 #2; CLOSE v0; MAKE v1 3; SEND v1 #8; SELECT; CASESEND v1 #3; AFTER #1; END; PRINT #9; SELECT; END; END",
+            "FUNC 0; DEFER 0; DEFER 1; CALL 1; SET v5 #5; PANIC #7; END; FUNC 0; SET v5 #6; DEFER 2; PRINT #1; END; FUNC 0; SET v5 #7; PRINT #2; END",
+            "FUNC 0; MAKE v0 0; GO 1 v0; GO 1 v0; SLEEP #0; CLOSE v0; PRINT #4; SLEEP #0; PRINT #5; END;"
+                + "FUNC 1; DEFER 2; SELECT; CASESEND #0 #1; CASESEND v0 #2; AFTER #5; END; END; FUNC 0; RECOVER v3; PRINT v3; END",
+            "FUNC 0; PRINT #1; DEFER 0; DEFER 0; DEFER 0; SET v2 #2; CALL 0; END"};
+        for (String text : texts) {
+            for (int steps = 1; steps <= 30; steps++) {
+                dueAgain(steps, text);
+            }
+        }
+        ChannelProgramRunner x = Program.fed("FUNC 0; CALL 1; END");
+        answers.due("check() at first", CALLEE, x.check());
+        answers.due("check() a second time", CALLEE, x.check());
     }
 
     private static void badLineStays() {

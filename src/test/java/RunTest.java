@@ -160,6 +160,13 @@ public final class RunTest {
         runs.due(EXITED, "7 0 7 0 7", "FUNC 0; SET v0 #7; PRINT v0; CALL 1; PRINT v0; CALL 1; PRINT v0; END;"
                 + "FUNC 0; IF #0; SET v1 #1; END; RECOVER v0; PRINT v0; SET v0 #3; END");
         runs.due(EXITED, "0 0", "FUNC 2; PRINT v0; PRINT v1; END");
+        // The constant 0 is not the variable of another activation.
+        runs.due(EXITED, "0", "FUNC 0; CALL 1 #5; PRINT #0; END; FUNC 1; END");
+        ChannelProgramRunner w = Program.ready("FUNC 0; CALL 1; CALL 2; END; FUNC 0; SET v0 #1; SET v3 #2; SET v5 #3; END; FUNC 0; SLEEP #1; END");
+        w.run(7);
+        for (int v = 0; v < 6; v++) {
+            answers.due("variable(0, " + v + ") of a new activation", 0, w.variable(0, v));
+        }
         runs.due(OVERFLOW, "1 1 1 1", "FUNC 0; PRINT #1; CALL 0; END");
         runs.due(EXITED, "2 1 0 8 8 9", "FUNC 0; CALL 1 #2; PRINT #9; END;"
                 + "FUNC 1; PRINT v0; IF v0; SUB v0 v0 #1; CALL 1 v0; PRINT #8; END; END");
@@ -219,6 +226,11 @@ public final class RunTest {
         for (int k : wrong) {
             answers.due("output(" + k + ") of 40", 0, x.output(k));
         }
+        x.check();
+        x.run(5);
+        answers.due("output(0) of one in a second run", 1, x.output(0));
+        answers.due("output(1) of one in a second run", 0, x.output(1));
+        x.run(3 * 39);
         for (int i = 0; i < 60; i++) {
             x.run(200);
         }

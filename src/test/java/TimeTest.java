@@ -62,6 +62,8 @@ public final class TimeTest {
         dueClock(7, EXITED, "2 3", "FUNC 0; MAKE v0 0; SELECT; CASERECV v1 v0 v2; PRINT #1; AFTER #7; PRINT #2; END; PRINT #3; END");
         dueClock(7, EXITED, "3", "FUNC 0; MAKE v0 0; SELECT; AFTER #7; CASERECV v1 v0 v2; PRINT #1; END; PRINT #3; END");
         dueClock(0, EXITED, "2", "FUNC 0; SELECT; AFTER #0; PRINT #2; END; END");
+        dueClock(1, EXITED, "2", "FUNC 0; SELECT; AFTER #1; PRINT #2; END; END");
+        dueClock(1, EXITED, "2", "FUNC 0; SLEEP #1; PRINT #2; END");
         dueClock(9, EXITED, "2", "FUNC 0; SET v3 #9; SELECT; AFTER v3; PRINT #2; END; END");
         // Served before its time: the time is forgotten.
         dueClock(3, STUCK, "1 44", "FUNC 0; MAKE v0 0; GO 1 v0; SLEEP #3; SEND v0 #44; SELECT; END; END; FUNC 1; SELECT; CASERECV v1 v0 v2; PRINT #1; PRINT v1; AFTER #7; PRINT #2; END; SELECT; END; END");
