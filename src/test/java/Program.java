@@ -39,12 +39,17 @@ final class Program {
     }
 
     static void feed(ChannelProgramRunner x, String text) {
+        feed(x, text, 0);
+    }
+
+    /** Arguments that the text leaves out are all the same number. */
+    static void feed(ChannelProgramRunner x, String text, int leftOut) {
         for (String part : text.split("[;\n]")) {
             String[] words = part.trim().split("\\s+");
             if (words[0].isEmpty()) {
                 continue;
             }
-            int[] args = new int[3];
+            int[] args = {leftOut, leftOut, leftOut};
             for (int i = 1; i < words.length; i++) {
                 args[i - 1] = argument(words[i]);
             }
