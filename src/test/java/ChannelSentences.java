@@ -28,7 +28,7 @@ final class ChannelSentences extends Sentences {
 
     private static void numbers() {
         about("Channels are numbered 1, 2, .. in the order in which MAKE makes them;");
-        ChannelProgramRunner x = Program.ready("FUNC 0;" + "MAKE v0 1; SEND v0 #1;".repeat(8) + "END");
+        Counted x = Program.ready("FUNC 0;" + "MAKE v0 1; SEND v0 #1;".repeat(8) + "END");
         step(x, 1);
         for (int n = 1; n <= 8; n++) {
             look(x, "channel(" + n + ")=-1");
@@ -82,7 +82,7 @@ final class ChannelSentences extends Sentences {
         for (int capacity = 0; capacity <= 3; capacity++) {
             look(ends(EXITED, "1 71 1 2 72 1 3 73 1", "FUNC 0; MAKE v0 " + capacity + ";" + order + "SEND v0 #71; SEND v0 #72; SEND v0 #73;" + receives),
                     "channel(1)=0");
-            ChannelProgramRunner x = ends(EXITED, "1 71 1", "FUNC 0; MAKE v0 " + capacity + ";" + order + "SEND v0 #71;" + receives);
+            Counted x = ends(EXITED, "1 71 1", "FUNC 0; MAKE v0 " + capacity + ";" + order + "SEND v0 #71;" + receives);
             look(x, "waitsAt(1)=11 waitsAt(2)=11 waitsAt(3)=-2 channel(1)=0");
         }
         ends(EXITED, ELEVEN, ALL + "SET v0 #11; LOOP v0; SEND v1 v0; SUB v0 v0 #1; END; SLEEP #0; END; FUNC 2; RECV v2 v1 v3; PRINT v2; END");
@@ -90,7 +90,7 @@ final class ChannelSentences extends Sentences {
         look(ends(STUCK, "", "FUNC 0; MAKE v0 0; MAKE v1 0; GO 1 v0; SLEEP #0; SEND v1 #7; END; FUNC 1; RECV v1 v0 v2; PRINT v1; END"),
                 "waitsAt(0)=5 waitsAt(1)=8");
         // He gets it at once, in the SEND's step.
-        ChannelProgramRunner y = after(6, "FUNC 0; MAKE v0 3; GO 1 v0; SLEEP #0; SEND v0 #71; SLEEP #1; END; FUNC 1; RECV v1 v0 v2; END");
+        Counted y = after(6, "FUNC 0; MAKE v0 3; GO 1 v0; SLEEP #0; SEND v0 #71; SLEEP #1; END; FUNC 1; RECV v1 v0 v2; END");
         look(y, "waitsAt(1)=8 variable(1,1)=0 variable(1,2)=0");
         step(y, 1);
         look(y, "waitsAt(1)=-3 variable(1,1)=71 variable(1,2)=1 channel(1)=0");
@@ -99,7 +99,7 @@ final class ChannelSentences extends Sentences {
     private static void sendAdds() {
         about("Else if fewer values are in the channel than its capacity, the value is added.");
         for (int capacity = 0; capacity <= 3; capacity++) {
-            ChannelProgramRunner x = after(2, "FUNC 0; MAKE v0 " + capacity + ";" + "SEND v0 #5;".repeat(4) + "END");
+            Counted x = after(2, "FUNC 0; MAKE v0 " + capacity + ";" + "SEND v0 #5;".repeat(4) + "END");
             for (int fill = 0; fill < capacity; fill++) {
                 look(x, "state=1 waitsAt(0)=-3 channel(1)=" + fill);
                 step(x, 1);
@@ -132,7 +132,7 @@ final class ChannelSentences extends Sentences {
             for (int fill = 1; fill <= capacity; fill++) {
                 String sends = "SEND v0 #71; SEND v0 #72; SEND v0 #73;".substring(0, 12 * fill + fill - 1);
                 for (String close : new String[] {"", "CLOSE v0;"}) {
-                    ChannelProgramRunner x = ends(EXITED, "71 1 72 1 73 1".substring(0, 5 * fill - 1),
+                    Counted x = ends(EXITED, "71 1 72 1 73 1".substring(0, 5 * fill - 1),
                             "FUNC 0; MAKE v0 " + capacity + ";" + sends + close + receive.repeat(fill) + "END");
                     look(x, "channel(1)=" + (close.isEmpty() ? 0 : 8));
                 }
@@ -207,6 +207,8 @@ final class ChannelSentences extends Sentences {
         ends(EXITED, "1", "FUNC 0; MAKE v0 0; GO 1 v0; SLEEP #0; RECV v1 v0 v1; PRINT v1; END; FUNC 1; SEND v0 #7; END");
         ends(EXITED, "1", "FUNC 0; MAKE v0 0; GO 1 v0; RECV v1 v0 v1; PRINT v1; END; FUNC 1; SEND v0 #7; END");
         ends(EXITED, "0", "FUNC 0; MAKE v0 1; CLOSE v0; SET v1 #5; RECV v1 v0 v1; PRINT v1; END");
+        ends(EXITED, "1", "FUNC 0; MAKE v0 0; GO 1 v0; SELECT; CASERECV v1 v0 v1; PRINT v1; END; END; FUNC 1; SEND v0 #7; END");
+        ends(EXITED, "0", "FUNC 0; MAKE v0 0; GO 1 v0; SET v1 #5; SELECT; CASERECV v1 v0 v1; PRINT v1; END; END; FUNC 1; CLOSE v0; END");
         // The channel's own variable may be set.
         ends(EXITED, "1", "FUNC 0; MAKE v0 1; SEND v0 #7; RECV v0 v0 v0; PRINT v0; END");
         ends(EXITED, "7 1", "FUNC 0; MAKE v0 1; SEND v0 #7; RECV v0 v0 v1; PRINT v0; PRINT v1; END");
@@ -236,7 +238,7 @@ final class ChannelSentences extends Sentences {
         look(ends(EXITED, "9 1 0 0 2 0 0 3 0 0", text), "channel(1)=8 channel(2)=0 waitsAt(1)=-2 waitsAt(2)=-2 waitsAt(3)=-2 waitsAt(4)=16");
         // In the CLOSE's own step.
         String one = "FUNC 0; MAKE v0 0; GO 1 v0; SLEEP #0; CLOSE v0; SLEEP #1; END; FUNC 1; SET v1 #8; SET v2 #9; RECV v1 v0 v2; END";
-        ChannelProgramRunner x = after(8, one);
+        Counted x = after(8, one);
         look(x, "waitsAt(1)=10 variable(1,1)=8 variable(1,2)=9 channel(1)=0");
         step(x, 1);
         look(x, "waitsAt(1)=-3 variable(1,1)=0 variable(1,2)=0 channel(1)=8");
@@ -256,7 +258,7 @@ final class ChannelSentences extends Sentences {
         look(ends(EXITED, "5 1 0 0", "FUNC 0; MAKE v0 1; SEND v0 #5; GO 1 v0; SLEEP #0; CLOSE v0; RECV v1 v0 v2; PRINT v1; PRINT v2; RECV v1 v0 v2; PRINT v1; PRINT v2; END;"
                 + "FUNC 1; SEND v0 #7; END"), "waitsAt(1)=-3");
         // Not before it becomes the running one.
-        ChannelProgramRunner x = after(8, "FUNC 0; MAKE v0 0; GO 1 v0; SLEEP #0; CLOSE v0; PRINT #9; SLEEP #0; END; FUNC 1; DEFER 2; SEND v0 #1; END; FUNC 0; SLEEP #1; END");
+        Counted x = after(8, "FUNC 0; MAKE v0 0; GO 1 v0; SLEEP #0; CLOSE v0; PRINT #9; SLEEP #0; END; FUNC 1; DEFER 2; SEND v0 #1; END; FUNC 0; SLEEP #1; END");
         look(x, "state=1 channel(1)=8 waitsAt(1)=-3 panicking(1)=0 notes(1)=1 printed=0");
         step(x, 1);
         look(x, "state=1 panicking(1)=0 printed=1");

@@ -19,7 +19,7 @@ public final class ChannelTest {
     }
 
     private static void makes() {
-        ChannelProgramRunner x = Program.ready("FUNC 0; LOOP #1; MAKE v0 3; END; END");
+        Counted x = Program.ready("FUNC 0; LOOP #1; MAKE v0 3; END; END");
         x.run(1);
         answers.due("channel(1) before MAKE", -1, x.channel(1));
         for (int n = 1; n <= 8; n++) {
@@ -42,7 +42,7 @@ public final class ChannelTest {
 
     private static void buffers() {
         for (int capacity = 0; capacity <= 3; capacity++) {
-            ChannelProgramRunner x = Program.ended("FUNC 0; MAKE v0 " + capacity + "; LOOP #1; SEND v0 #9; END; END");
+            Counted x = Program.ended("FUNC 0; MAKE v0 " + capacity + "; LOOP #1; SEND v0 #9; END; END");
             answers.due("channel(1) full", capacity, x.channel(1));
             answers.due("waitsAt(0)", 3, x.waitsAt(0));
             answers.due("state", STUCK, x.run(1));
@@ -57,10 +57,10 @@ public final class ChannelTest {
         // The channel may be the VAR that receives.
         runs.due(EXITED, "4 1", "FUNC 0; MAKE v0 1; SEND v0 #4; RECV v0 v0 v1; PRINT v0; PRINT v1; END");
         // A receiver that finds values lets the longest waiting sender add its own, behind the others.
-        ChannelProgramRunner x = runs.due(STUCK, "1 2 3 4", "FUNC 0; MAKE v0 2; GO 1 v0; SLEEP #0; LOOP #1; RECV v1 v0 v2; PRINT v1; END; END;"
+        Counted x = runs.due(STUCK, "1 2 3 4", "FUNC 0; MAKE v0 2; GO 1 v0; SLEEP #0; LOOP #1; RECV v1 v0 v2; PRINT v1; END; END;"
                 + "FUNC 1; SEND v0 #1; SEND v0 #2; SEND v0 #3; SEND v0 #4; END");
         answers.due("channel(1) at the end", 0, x.channel(1));
-        ChannelProgramRunner y = Program.ready("FUNC 0; MAKE v0 2; GO 1 v0; SLEEP #0; RECV v1 v0 v2; SLEEP #1; END;"
+        Counted y = Program.ready("FUNC 0; MAKE v0 2; GO 1 v0; SLEEP #0; RECV v1 v0 v2; SLEEP #1; END;"
                 + "FUNC 1; SEND v0 #1; SEND v0 #2; SEND v0 #3; END");
         y.run(4 + 4);
         answers.due("waitsAt(1) at its third SEND", 10, y.waitsAt(1));
@@ -78,7 +78,7 @@ public final class ChannelTest {
         runs.due(EXITED, "5 1 8", "FUNC 0; MAKE v0 0; GO 1 v0; SLEEP #0; RECV v1 v0 v2; PRINT v1; PRINT v2; SLEEP #0; END;"
                 + "FUNC 1; SEND v0 #5; PRINT #8; END");
         // A waiting receiver gets the value even if there would be room in the channel.
-        ChannelProgramRunner x = Program.ready("FUNC 0; MAKE v0 3; GO 1 v0; SLEEP #0; SEND v0 #5; SLEEP #1; END;"
+        Counted x = Program.ready("FUNC 0; MAKE v0 3; GO 1 v0; SLEEP #0; SEND v0 #5; SLEEP #1; END;"
                 + "FUNC 1; RECV v1 v0 v2; PRINT v1; END");
         x.run(6);
         answers.due("waitsAt(1) before the SEND", 8, x.waitsAt(1));
@@ -106,9 +106,9 @@ public final class ChannelTest {
     private static void noChannel() {
         String[] wrong = {"#0", "#2", "#9", "-1", "-2147483648", "2147483647"};
         for (String ch : wrong) {
-            ChannelProgramRunner x = runs.due(STUCK, "", "FUNC 0; MAKE v0 3; SEND " + ch + " #1; PRINT #1; END");
+            Counted x = runs.due(STUCK, "", "FUNC 0; MAKE v0 3; SEND " + ch + " #1; PRINT #1; END");
             answers.due("waitsAt(0) at SEND " + ch, 2, x.waitsAt(0));
-            ChannelProgramRunner y = runs.due(STUCK, "", "FUNC 0; MAKE v0 3; RECV v1 " + ch + " v1; PRINT #1; END");
+            Counted y = runs.due(STUCK, "", "FUNC 0; MAKE v0 3; RECV v1 " + ch + " v1; PRINT #1; END");
             answers.due("waitsAt(0) at RECV " + ch, 2, y.waitsAt(0));
             runs.panic(-1, "", "FUNC 0; MAKE v0 3; CLOSE " + ch + "; PRINT #1; END");
         }
@@ -116,7 +116,7 @@ public final class ChannelTest {
         // Two that wait with the same wrong number do not meet.
         runs.due(STUCK, "", "FUNC 0; GO 1; RECV v0 #3 v1; END; FUNC 0; SEND #3 #1; END");
         // Who began to wait on a number before there was such a channel waits for ever.
-        ChannelProgramRunner x = runs.due(STUCK, "", "FUNC 0; GO 1; SLEEP #0; MAKE v0 0; SEND v0 #4; END; FUNC 0; RECV v0 #1 v1; PRINT v0; END");
+        Counted x = runs.due(STUCK, "", "FUNC 0; GO 1; SLEEP #0; MAKE v0 0; SEND v0 #4; END; FUNC 0; RECV v0 #1 v1; PRINT v0; END");
         answers.due("waitsAt(0)", 4, x.waitsAt(0));
         answers.due("waitsAt(1)", 7, x.waitsAt(1));
     }
@@ -126,7 +126,7 @@ public final class ChannelTest {
                 + "SET v1 #9; SET v2 #9; RECV v1 v0 v2; PRINT v1; PRINT v2; SUB v3 v3 #1; END; END");
         runs.panic(-1, "", "FUNC 0; MAKE v0 3; CLOSE v0; SEND v0 #1; PRINT #1; END");
         runs.panic(-1, "", "FUNC 0; MAKE v0 3; CLOSE v0; CLOSE v0; PRINT #1; END");
-        ChannelProgramRunner x = Program.ready("FUNC 0; MAKE v0 3; SEND v0 #1; SEND v0 #1; CLOSE v0; RECV v1 v0 v2; SLEEP #1; END");
+        Counted x = Program.ready("FUNC 0; MAKE v0 3; SEND v0 #1; SEND v0 #1; CLOSE v0; RECV v1 v0 v2; SLEEP #1; END");
         x.run(4);
         answers.due("channel(1) with two", 2, x.channel(1));
         x.run(1);
@@ -137,7 +137,7 @@ public final class ChannelTest {
 
     private static void closeWakes() {
         // Senders stop waiting at the CLOSE, and panic one after the other as they come to run.
-        ChannelProgramRunner x = Program.ready("FUNC 0; MAKE v0 0; GO 1 v0; GO 1 v0; SLEEP #0; CLOSE v0; PRINT #8; SLEEP #0; END;"
+        Counted x = Program.ready("FUNC 0; MAKE v0 0; GO 1 v0; GO 1 v0; SLEEP #0; CLOSE v0; PRINT #8; SLEEP #0; END;"
                 + "FUNC 1; DEFER 2; SEND v0 #1; PRINT #9; END; FUNC 0; RECOVER v0; PRINT v0; END");
         x.run(5 + 6);
         answers.due("waitsAt(1)", 11, x.waitsAt(1));
@@ -155,7 +155,7 @@ public final class ChannelTest {
         answers.due("outputs", true, Program.outputs(x).equals("8 -1 -1"));
 
         // Not recovered: the program ends when the sender becomes the running one, not at the CLOSE.
-        ChannelProgramRunner y = Program.ready("FUNC 0; MAKE v0 0; GO 1 v0; SLEEP #0; CLOSE v0; PRINT #8; SLEEP #3; END; FUNC 1; SEND v0 #1; END");
+        Counted y = Program.ready("FUNC 0; MAKE v0 0; GO 1 v0; SLEEP #0; CLOSE v0; PRINT #8; SLEEP #3; END; FUNC 1; SEND v0 #1; END");
         y.run(6 + 1);
         answers.due("state after CLOSE and PRINT", ChannelProgramRunner.RUNNING, y.run(1));
         answers.due("state after SLEEP", ChannelProgramRunner.PANICKED, y.run(1));
@@ -168,7 +168,7 @@ public final class ChannelTest {
 
     private static void closeTellsReceivers() {
         // Both VARs become 0 at once, whatever they were.
-        ChannelProgramRunner x = Program.ready("FUNC 0; MAKE v0 0; GO 1 v0; SLEEP #0; CLOSE v0; SLEEP #1; END; FUNC 1; SET v1 #8; SET v2 #9; RECV v1 v0 v2; END");
+        Counted x = Program.ready("FUNC 0; MAKE v0 0; GO 1 v0; SLEEP #0; CLOSE v0; SLEEP #1; END; FUNC 1; SET v1 #8; SET v2 #9; RECV v1 v0 v2; END");
         x.run(8);
         answers.due("variable(1, 1) when waiting", 8, x.variable(1, 1));
         answers.due("variable(1, 2) when waiting", 9, x.variable(1, 2));
@@ -184,7 +184,7 @@ public final class ChannelTest {
 
     private static void readyAndWaiting() {
         // A served goroutine moves on only when it becomes the running one, and within that same step.
-        ChannelProgramRunner x = Program.ready("FUNC 0; MAKE v0 0; GO 1 v0; RECV v1 v0 v2; END; FUNC 1; SEND v0 #5; PRINT #1; SLEEP #0; PRINT #2; END");
+        Counted x = Program.ready("FUNC 0; MAKE v0 0; GO 1 v0; RECV v1 v0 v2; END; FUNC 1; SEND v0 #5; PRINT #1; SLEEP #0; PRINT #2; END");
         x.run(6);
         answers.due("waitsAt(0) when served", -3, x.waitsAt(0));
         answers.due("variable(0, 1) when served", 5, x.variable(0, 1));
@@ -193,7 +193,7 @@ public final class ChannelTest {
         answers.due("waitsAt(1) when 0 ended", -3, x.waitsAt(1));
         answers.due("printed()", 1, x.printed());
         // The same for one that only let the others run.
-        ChannelProgramRunner y = Program.ready("FUNC 0; GO 1; SLEEP #0; END; FUNC 0; PRINT #1; PRINT #2; END");
+        Counted y = Program.ready("FUNC 0; GO 1; SLEEP #0; END; FUNC 0; PRINT #1; PRINT #2; END");
         answers.due("run(5)", ChannelProgramRunner.RUNNING, y.run(5));
         answers.due("notes(0) of one that has to leave", 0, y.notes(0));
         answers.due("run(1) when 1 ends", EXITED, y.run(1));

@@ -22,7 +22,7 @@ public final class CheckTest {
     }
 
     private static void due(int want, int bad, String text) {
-        ChannelProgramRunner x = Program.fed(text);
+        Counted x = Program.fed(text);
         answers.due("check() of " + text, want, x.check());
         answers.due("badLine() of " + text, bad, x.badLine());
         answers.due("state of " + text, want == OK ? ChannelProgramRunner.RUNNING : ChannelProgramRunner.IDLE, x.run(0));
@@ -209,7 +209,7 @@ public final class CheckTest {
     }
 
     private static void readyAfterOk() {
-        ChannelProgramRunner x = Program.ended("FUNC 2; MAKE v0 1; PRINT #5; DEFER 0; SLEEP #3; PANIC #7; END");
+        Counted x = Program.ended("FUNC 2; MAKE v0 1; PRINT #5; DEFER 0; SLEEP #3; PANIC #7; END");
         answers.due("panicValue() at first", 0, x.panicValue());
         answers.due("clock() at first", 12, x.clock());
         answers.due("check() again", OK, x.check());
@@ -229,7 +229,7 @@ public final class CheckTest {
         answers.due("channel(1) in the second run", 0, x.channel(1));
         answers.due("variable(0, 0) in the second run", 1, x.variable(0, 0));
 
-        ChannelProgramRunner y = Program.ended("FUNC 0; PANIC #7; END");
+        Counted y = Program.ended("FUNC 0; PANIC #7; END");
         answers.due("panicValue()", 7, y.panicValue());
         answers.due("check()", OK, y.check());
         answers.due("panicValue() after check()", 0, y.panicValue());
@@ -239,11 +239,12 @@ public final class CheckTest {
 
     /** Leaves a program after some steps, checks it again and compares it with a new one, step by step. */
     private static void dueAgain(int steps, String text) {
-        ChannelProgramRunner x = Program.ready(text);
-        x.run(steps);
-        answers.due("check() again", OK, x.check());
-        ChannelProgramRunner y = Program.ready(text);
         for (int i = 0; i < 60; i++) {
+            Counted x = Program.ready(text);
+            x.run(steps);
+            answers.due("check() again", OK, x.check());
+            Counted y = Program.ready(text);
+            answers.due("run(" + i + ")", y.run(i), x.run(i));
             String what = " in step " + i + " after " + steps + " steps of " + text;
             for (int g = 0; g < 13; g++) {
                 answers.due("waitsAt(" + g + ")" + what, y.waitsAt(g), x.waitsAt(g));
@@ -257,9 +258,9 @@ public final class CheckTest {
             }
             answers.due("clock()" + what, y.clock(), x.clock());
             answers.due("printed()" + what, y.printed(), x.printed());
+            answers.due("panicValue()" + what, y.panicValue(), x.panicValue());
             answers.due("run(1)" + what, y.run(1), x.run(1));
         }
-        answers.due("panicValue() after " + text, y.panicValue(), x.panicValue());
     }
 
     private static void sameAgain() {
@@ -275,13 +276,13 @@ public final class CheckTest {
                 dueAgain(steps, text);
             }
         }
-        ChannelProgramRunner x = Program.fed("FUNC 0; CALL 1; END");
+        Counted x = Program.fed("FUNC 0; CALL 1; END");
         answers.due("check() at first", CALLEE, x.check());
         answers.due("check() a second time", CALLEE, x.check());
     }
 
     private static void badLineStays() {
-        ChannelProgramRunner x = Program.fed("FUNC 0; PRINT v0");
+        Counted x = Program.fed("FUNC 0; PRINT v0");
         answers.due("badLine() before any check", -1, x.badLine());
         x.check();
         answers.due("badLine() of FORM", 2, x.badLine());

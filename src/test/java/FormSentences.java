@@ -41,11 +41,11 @@ final class FormSentences extends Sentences {
         check(FORM, 60, "FUNC 0;" + "PRINT #1;".repeat(59));
         check(FORM, 59, "FUNC 0; END;".repeat(29) + "FUNC 0");
         for (int kind = 1; kind < 30; kind++) {
-            ChannelProgramRunner x = new ChannelProgramRunner();
+            Counted x = new Counted();
             x.line(kind, 0, 0, 0);
             due("check() that begins with " + kind, FORM, x.check());
             look(x, "badLine=0");
-            ChannelProgramRunner y = Program.fed("FUNC 0; END");
+            Counted y = Program.fed("FUNC 0; END");
             y.line(kind, 0, 0, 0);
             due("check() with " + kind + " after the function", FORM, y.check());
             look(y, "badLine=2");
@@ -185,6 +185,10 @@ final class FormSentences extends Sentences {
     private static void breakLeaves() {
         about("(it leaves the nearest LOOP, out of a SELECT too).");
         ends(EXITED, "1 9", "FUNC 0; LOOP #1; PRINT #1; BREAK; PRINT #2; END; PRINT #9; END");
+        // So no way leads on from it to the next line, and one leads past the END.
+        inside(OK, -1, "LOOP #1; BREAK; PRINT v0; END");
+        inside(OK, -1, "LOOP #1; BREAK; END; RETURN; PRINT v0");
+        inside(UNSET, 4, "LOOP #1; BREAK; END; PRINT v0");
         ends(EXITED, "1 3 9", "FUNC 0; LOOP #1; LOOP #1; PRINT #1; BREAK; PRINT #2; END; PRINT #3; BREAK; END; PRINT #9; END");
         ends(EXITED, "1 9", "FUNC 0; LOOP #1; SELECT; DEFAULT; PRINT #1; BREAK; PRINT #2; END; PRINT #3; END; PRINT #9; END");
         ends(EXITED, "1 9", "FUNC 0; LOOP #1; IF #1; SELECT; DEFAULT; IF #1; PRINT #1; BREAK; END; END; END; PRINT #3; END; PRINT #9; END");

@@ -13,7 +13,7 @@ public final class FullTest {
 
     /** Twelve goroutines with four activations each, eleven with three notes and three cases, eight full channels. */
     private static void allAtOnce() {
-        ChannelProgramRunner x = runs.due(ChannelProgramRunner.OVERFLOW, "1 2 3 11 10 9 8 7 6 5 4 3 2 1",
+        Counted x = runs.due(ChannelProgramRunner.OVERFLOW, "1 2 3 11 10 9 8 7 6 5 4 3 2 1",
                 "FUNC 0; SET v0 #8; LOOP v0; MAKE v1 3; SEND v1 #1; SEND v1 #2; SEND v1 #3; SUB v0 v0 #1; END;"
                 + "SET v0 #11; LOOP v0; GO 1 #3 v0; SUB v0 v0 #1; END; SLEEP #0; CALL 2 #2 #8; END;"
                 + "FUNC 2; DEFER 3; DEFER 3; DEFER 3; IF v0; SUB v0 v0 #1; CALL 1 v0 v1; ELSE; SLEEP #0; SET v5 v1;"
@@ -35,7 +35,7 @@ public final class FullTest {
     }
 
     private static void allSleep() {
-        ChannelProgramRunner x = runs.due(ChannelProgramRunner.EXITED, "0 11 10 9 8 7 6 5 4 3 2 1",
+        Counted x = runs.due(ChannelProgramRunner.EXITED, "0 11 10 9 8 7 6 5 4 3 2 1",
                 "FUNC 0; SET v0 #11; LOOP v0; GO 1 v0; SUB v0 v0 #1; END; SLEEP #1; PRINT #0; SLEEP #0; END;"
                 + "FUNC 1; SLEEP #1; PRINT v0; END");
         answers.due("clock()", 1, x.clock());
@@ -52,7 +52,7 @@ public final class FullTest {
 
     /** An object's 512 calls, all of them the longest runs. */
     private static void manyCalls() {
-        ChannelProgramRunner x = Program.ready("FUNC 0; LOOP #1; PRINT #5; SLEEP 2147483647; END; END");
+        Counted x = Program.ready("FUNC 0; LOOP #1; PRINT #5; SLEEP 2147483647; END; END");
         for (int i = 0; i < 500; i++) {
             x.run(200);
         }

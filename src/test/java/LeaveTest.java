@@ -32,14 +32,14 @@ public final class LeaveTest {
         runs.due(EXITED, "5 1 2 6 3 4", "FUNC 0; DEFER 2 #3; DEFER 3; END;" + PRINTS
                 + "FUNC 1; PRINT #6; PRINT v0; PRINT #4; END; FUNC 0; PRINT #5; DEFER 1 #1 #2; END");
         // Only as many values as parameters.
-        ChannelProgramRunner x = Program.ready("FUNC 0; DEFER 1 #5 #6; END; FUNC 1; SLEEP #0; END");
+        Counted x = Program.ready("FUNC 0; DEFER 1 #5 #6; END; FUNC 1; SLEEP #0; END");
         x.run(3);
         answers.due("variable(0, 0) of the note", 5, x.variable(0, 0));
         answers.due("variable(0, 1) of the note", 0, x.variable(0, 1));
         // A note may wait.
         runs.due(EXITED, "1 2 3", "FUNC 0; MAKE v0 0; GO 1 v0; DEFER 2 v0; PRINT #1; END; FUNC 1; PRINT #2; SEND v0 #3; END; FUNC 1; RECV v1 v0 v2; PRINT v1; END");
 
-        ChannelProgramRunner y = Program.ready("FUNC 0; DEFER 1; DEFER 1; SLEEP #1; END; FUNC 0; SLEEP #1; END");
+        Counted y = Program.ready("FUNC 0; DEFER 1; DEFER 1; SLEEP #1; END; FUNC 0; SLEEP #1; END");
         answers.due("notes(0) at first", 0, y.notes(0));
         y.run(2);
         answers.due("notes(0) after one", 1, y.notes(0));
@@ -61,7 +61,7 @@ public final class LeaveTest {
     }
 
     private static void panics() {
-        ChannelProgramRunner x = runs.panic(7, "1", "FUNC 0; PRINT #1; PANIC #7; PRINT #2; END");
+        Counted x = runs.panic(7, "1", "FUNC 0; PRINT #1; PANIC #7; PRINT #2; END");
         answers.due("waitsAt(0)", -2, x.waitsAt(0));
         answers.due("notes(0)", -1, x.notes(0));
         answers.due("panicking(0)", 0, x.panicking(0));
@@ -117,7 +117,7 @@ public final class LeaveTest {
 
     private static void counts() {
         // 0 panics with 7, its note panics with 8, the note's note sleeps.
-        ChannelProgramRunner x = Program.ready("FUNC 0; DEFER 1; PANIC #7; END; FUNC 0; DEFER 2; PANIC #8; END; FUNC 0; RECOVER v0; SLEEP #1; END");
+        Counted x = Program.ready("FUNC 0; DEFER 1; PANIC #7; END; FUNC 0; DEFER 2; PANIC #8; END; FUNC 0; RECOVER v0; SLEEP #1; END");
         x.run(2);
         answers.due("panicking(0) at first", 0, x.panicking(0));
         answers.due("notes(0) at first", 1, x.notes(0));
@@ -138,13 +138,13 @@ public final class LeaveTest {
         answers.due("panicking(0) at the end", 0, x.panicking(0));
 
         // Leaving without panic does not count.
-        ChannelProgramRunner y = Program.ready("FUNC 0; DEFER 1; END; FUNC 0; SLEEP #1; END");
+        Counted y = Program.ready("FUNC 0; DEFER 1; END; FUNC 0; SLEEP #1; END");
         y.run(3);
         answers.due("run(0)", RUNNING, y.run(0));
         answers.due("panicking(0) of one that leaves", 0, y.panicking(0));
 
         // Told of each goroutine by itself.
-        ChannelProgramRunner z = Program.ready("FUNC 0; GO 1; SLEEP #9; END; FUNC 0; DEFER 2; PANIC #8; END; FUNC 0; SLEEP #4; SLEEP #9; END");
+        Counted z = Program.ready("FUNC 0; GO 1; SLEEP #9; END; FUNC 0; DEFER 2; PANIC #8; END; FUNC 0; SLEEP #4; SLEEP #9; END");
         z.run(7);
         answers.due("panicking(0)", 0, z.panicking(0));
         answers.due("panicking(1)", 1, z.panicking(1));
@@ -154,12 +154,12 @@ public final class LeaveTest {
     private static void overflows() {
         // Function 1 calls itself down to the fourth activation, which leaves with a note.
         String down = "FUNC 0; CALL 1 #2; END; FUNC 1; IF v0; SUB v0 v0 #1; CALL 1 v0; ELSE; DEFER 2; DEFER 2; SET v5 #6; ";
-        ChannelProgramRunner x = runs.due(OVERFLOW, "", down + "END; END; FUNC 0; PRINT #9; END");
+        Counted x = runs.due(OVERFLOW, "", down + "END; END; FUNC 0; PRINT #9; END");
         answers.due("notes(0) are not taken off", 2, x.notes(0));
         answers.due("variable(0, 5)", 6, x.variable(0, 5));
         answers.due("waitsAt(0)", -3, x.waitsAt(0));
         answers.due("panicking(0)", 0, x.panicking(0));
-        ChannelProgramRunner y = runs.due(OVERFLOW, "", down + "PANIC #3; END; END; FUNC 0; PRINT #9; END");
+        Counted y = runs.due(OVERFLOW, "", down + "PANIC #3; END; END; FUNC 0; PRINT #9; END");
         answers.due("notes(0) of a panic", 2, y.notes(0));
         answers.due("panicking(0) of a panic", 1, y.panicking(0));
         answers.due("panicValue() of OVERFLOW", 0, y.panicValue());
@@ -168,7 +168,7 @@ public final class LeaveTest {
         // The leaving ones count among the four.
         runs.due(OVERFLOW, "1 2 3", "FUNC 0; DEFER 1; END; FUNC 0; PRINT #1; DEFER 2; END; FUNC 0; PRINT #2; DEFER 3; END; FUNC 0; PRINT #3; DEFER 3; END");
         // Other goroutines are as they were.
-        ChannelProgramRunner z = runs.due(OVERFLOW, "", "FUNC 0; GO 1; SLEEP #5; END; FUNC 0; CALL 1; END");
+        Counted z = runs.due(OVERFLOW, "", "FUNC 0; GO 1; SLEEP #5; END; FUNC 0; CALL 1; END");
         answers.due("waitsAt(0)", 2, z.waitsAt(0));
         answers.due("waitsAt(1)", -3, z.waitsAt(1));
     }

@@ -27,7 +27,7 @@ final class LeavingSentences extends Sentences {
         ends(EXITED, "9 4 5", "FUNC 0; SET v0 #4; SET v1 #5; DEFER 1 v0 v1; SET v0 #9; SET v1 #8; PRINT v0; END;" + PRINTS);
         ends(EXITED, "-1 2147483641", "FUNC 0; DEFER 1 -1 2147483647; END;" + PRINTS);
         // In this activation: another one of the same function has none of them.
-        ChannelProgramRunner x = after(4, "FUNC 0; DEFER 1 #1 #2; CALL 2; SLEEP #1; END;" + PRINTS + "FUNC 0; SLEEP #1; END");
+        Counted x = after(4, "FUNC 0; DEFER 1 #1 #2; CALL 2; SLEEP #1; END;" + PRINTS + "FUNC 0; SLEEP #1; END");
         look(x, "notes(0)=0");
         step(x, 1);
         look(x, "notes(0)=1");
@@ -45,7 +45,7 @@ final class LeavingSentences extends Sentences {
                 panics(-5, "3 3 3", text);
             }
         }
-        ChannelProgramRunner x = Program.ready("FUNC 0;" + "DEFER 1;".repeat(4) + "PRINT #1; END; FUNC 0; END");
+        Counted x = Program.ready("FUNC 0;" + "DEFER 1;".repeat(4) + "PRINT #1; END; FUNC 0; END");
         step(x, 1);
         for (int n = 0; n < 3; n++) {
             look(x, "notes(0)=" + n);
@@ -58,11 +58,11 @@ final class LeavingSentences extends Sentences {
         ends(EXITED, "3 3 3 8 3 3 3", "FUNC 0;" + "DEFER 1;".repeat(3) + "CALL 2; PRINT #8; END; FUNC 0; PRINT #3; END; FUNC 0;" + "DEFER 1;".repeat(3) + "END");
         ends(EXITED, "3 3 3 3 3", "FUNC 0;" + "DEFER 1;".repeat(2) + "DEFER 2; END; FUNC 0; PRINT #3; END; FUNC 0;" + "DEFER 1;".repeat(3) + "END");
         // So has each of the 48 that there can be at once, and each note its values.
-        ChannelProgramRunner all = ends(STUCK, "", TWELVE_DEEP);
+        Counted all = ends(STUCK, "", TWELVE_DEEP);
         for (int g = 0; g < 12; g++) {
             look(all, "notes(" + g + ")=3");
         }
-        ChannelProgramRunner many = Program.ended("FUNC 0; SET v0 #0; LOOP #1; ADD v0 v0 #1; GO 1 v0; SAME v1 v0 #11; IF v1; BREAK; END; END; CALL 1 #12; SLEEP #1; END;"
+        Counted many = Program.ended("FUNC 0; SET v0 #0; LOOP #1; ADD v0 v0 #1; GO 1 v0; SAME v1 v0 #11; IF v1; BREAK; END; END; CALL 1 #12; SLEEP #1; END;"
                 + "FUNC 1; MUL v1 v0 #10; DEFER 2 v1; ADD v1 v1 #1; DEFER 2 v1; ADD v1 v1 #1; DEFER 2 v1; SLEEP #1; END; FUNC 1; PRINT v0; END");
         look(many, "state=2 printed=36");
         for (int k = 0; k < 32; k++) {
@@ -89,7 +89,7 @@ final class LeavingSentences extends Sentences {
             ends(EXITED, "9 1 2", "FUNC 0; DEFER 1 #1 #2; PRINT #9;" + end + "END;" + PRINTS);
             ends(EXITED, "9 5 6 3 4 1 2", "FUNC 0; DEFER 1 #1 #2; DEFER 1 #3 #4; DEFER 1 #5 #6; PRINT #9;" + end + "END;" + PRINTS);
         }
-        ChannelProgramRunner x = after(5, "FUNC 0; DEFER 1; CALL 2; SLEEP #1; END; FUNC 0; SLEEP #1; END; FUNC 0; SLEEP #1; END");
+        Counted x = after(5, "FUNC 0; DEFER 1; CALL 2; SLEEP #1; END; FUNC 0; SLEEP #1; END; FUNC 0; SLEEP #1; END");
         look(x, "clock=1 notes(0)=1");
         step(x, 1);
         look(x, "clock=2 notes(0)=0 state=1");
@@ -161,7 +161,7 @@ final class LeavingSentences extends Sentences {
         ends(EXITED, "7 8", "FUNC 0; CALL 1; PRINT #8; END; FUNC 0; DEFER 2; PANIC #7; PRINT #9; END;" + RECOVERS);
         ends(EXITED, "7 0 0 8", "FUNC 0; CALL 1; PRINT #8; END; FUNC 0; DEFER 2; DEFER 2; DEFER 2; PANIC #7; END;" + RECOVERS);
         ends(EXITED, "7 0", "FUNC 0; DEFER 1; PANIC #7; END; FUNC 0; RECOVER v0; PRINT v0; RECOVER v0; PRINT v0; END");
-        ChannelProgramRunner x = after(4, "FUNC 0; DEFER 1; PANIC #7; END; FUNC 0; RECOVER v0; SLEEP #1; END");
+        Counted x = after(4, "FUNC 0; DEFER 1; PANIC #7; END; FUNC 0; RECOVER v0; SLEEP #1; END");
         look(x, "panicking(0)=1 variable(0,0)=0");
         step(x, 1);
         look(x, "panicking(0)=0 variable(0,0)=7 state=1");
@@ -206,18 +206,18 @@ final class LeavingSentences extends Sentences {
         // The running one ends, and all others wait.
         look(ends(STUCK, "1", "FUNC 0; GO 1; SELECT; END; END; FUNC 0; PRINT #1; END"), "waitsAt(0)=2 waitsAt(1)=-2");
         // One is in the queue: not yet.
-        ChannelProgramRunner x = after(3, "FUNC 0; GO 1; SELECT; END; END; FUNC 0; END");
+        Counted x = after(3, "FUNC 0; GO 1; SELECT; END; END; FUNC 0; END");
         look(x, "state=1 waitsAt(0)=2 waitsAt(1)=-3");
         step(x, 1);
         look(x, "state=4 waitsAt(0)=2 waitsAt(1)=-2");
         // One waits until some time: not yet.
-        ChannelProgramRunner y = after(4, "FUNC 0; GO 1; SELECT; END; END; FUNC 0; SLEEP #3; SELECT; END; END");
+        Counted y = after(4, "FUNC 0; GO 1; SELECT; END; END; FUNC 0; SLEEP #3; SELECT; END; END");
         look(y, "state=1 clock=0");
         step(y, 1);
         look(y, "state=1 clock=3 waitsAt(0)=2 waitsAt(1)=-3");
         step(y, 1);
         look(y, "state=4 clock=3 waitsAt(0)=2 waitsAt(1)=7");
-        ChannelProgramRunner z = after(2, "FUNC 0; SELECT; AFTER #3; END; SELECT; END; END");
+        Counted z = after(2, "FUNC 0; SELECT; AFTER #3; END; SELECT; END; END");
         look(z, "state=1 clock=3 waitsAt(0)=-3");
         step(z, 1);
         look(z, "state=4 clock=3 waitsAt(0)=4");

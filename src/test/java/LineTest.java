@@ -16,7 +16,7 @@ public final class LineTest {
     }
 
     private static boolean accepted(int kind, int a, int b, int c) {
-        return new ChannelProgramRunner().line(kind, a, b, c);
+        return new Counted().line(kind, a, b, c);
     }
 
     private static void due(boolean want, int kind, int a, int b, int c) {
@@ -80,7 +80,7 @@ public final class LineTest {
     }
 
     private static void takesSixtyLines() {
-        ChannelProgramRunner x = Program.fed("FUNC 0");
+        Counted x = Program.fed("FUNC 0");
         for (int i = 1; i < 59; i++) {
             answers.due("line " + i, true, x.line(20, i, 0, 0));
         }
@@ -91,11 +91,11 @@ public final class LineTest {
         answers.due("clear() of one", 1, x.clear());
     }
 
-    private static ChannelProgramRunner stuckAfterMuch() {
+    private static Counted stuckAfterMuch() {
         return Program.ended("FUNC 0; MAKE v0 1; SEND v0 #4; PRINT #3; SLEEP #9; RECV v1 #0 v2; END");
     }
 
-    private static void dueIdle(String what, ChannelProgramRunner x) {
+    private static void dueIdle(String what, Counted x) {
         answers.due(what + ": printed()", 0, x.printed());
         answers.due(what + ": output(0)", 0, x.output(0));
         answers.due(what + ": panicValue()", 0, x.panicValue());
@@ -108,7 +108,7 @@ public final class LineTest {
         answers.due(what + ": run(1)", ChannelProgramRunner.IDLE, x.run(1));
     }
 
-    private static void dueStuck(String what, ChannelProgramRunner x) {
+    private static void dueStuck(String what, Counted x) {
         answers.due(what + ": printed()", 1, x.printed());
         answers.due(what + ": output(0)", 3, x.output(0));
         answers.due(what + ": clock()", 9, x.clock());
@@ -120,19 +120,19 @@ public final class LineTest {
     }
 
     private static void endsWhatWasRun() {
-        ChannelProgramRunner x = stuckAfterMuch();
+        Counted x = stuckAfterMuch();
         dueStuck("before", x);
         answers.due("a refused line", false, x.line(0, 3, 0, 0));
         dueStuck("after a refused line", x);
         answers.due("an accepted line", true, x.line(0, 0, 0, 0));
         dueIdle("after an accepted line", x);
 
-        ChannelProgramRunner y = Program.ended("FUNC 0; PANIC #8; END");
+        Counted y = Program.ended("FUNC 0; PANIC #8; END");
         answers.due("panicValue()", 8, y.panicValue());
         y.line(0, 0, 0, 0);
         dueIdle("a panic, then a line", y);
 
-        ChannelProgramRunner z = Program.ready("FUNC 0; DEFER 1; PANIC #8; END; FUNC 0; SLEEP #4; END");
+        Counted z = Program.ready("FUNC 0; DEFER 1; PANIC #8; END; FUNC 0; SLEEP #4; END");
         z.run(4);
         answers.due("panicking(0)", 1, z.panicking(0));
         z.line(0, 0, 0, 0);
@@ -140,7 +140,7 @@ public final class LineTest {
     }
 
     private static void clears() {
-        ChannelProgramRunner x = stuckAfterMuch();
+        Counted x = stuckAfterMuch();
         answers.due("clear()", 7, x.clear());
         dueIdle("after clear()", x);
         answers.due("clear() again", 0, x.clear());

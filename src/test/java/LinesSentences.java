@@ -29,7 +29,7 @@ final class LinesSentences extends Sentences {
 
     private static void isFedLineByLine() {
         about("A program is fed line by line. LINES line(kind, a, b, c).");
-        ChannelProgramRunner x = new ChannelProgramRunner();
+        Counted x = new Counted();
         due("check() of no line", FORM, x.check());
         due("first line", true, x.line(0, 0, 0, 0));
         due("check() of one line", FORM, x.check());
@@ -111,12 +111,16 @@ final class LinesSentences extends Sentences {
         // Variable 5 is never set: who looked at it would find the program wrong.
         int[] leftOut = {LEAST, -1, 5, 6, 29, MOST};
         for (int n : leftOut) {
-            ChannelProgramRunner x = new ChannelProgramRunner();
-            Program.feed(x, text, n);
-            due("check() with " + n, OK, x.check());
-            same("with " + n, 60, x, Program.ready(text));
-            due("end with " + n, PANICKED, x.run(1));
+            same("with " + n, 60, () -> readyWith(text, n), () -> Program.ready(text));
+            due("end with " + n, PANICKED, readyWith(text, n).run(200));
         }
+    }
+
+    private static Counted readyWith(String text, int leftOut) {
+        Counted x = new Counted();
+        Program.feed(x, text, leftOut);
+        due("check() with " + leftOut, OK, x.check());
+        return x;
     }
 
     private static void parameters() {
@@ -248,7 +252,7 @@ final class LinesSentences extends Sentences {
     /** Each variable can be the one that is set, and no other changes. */
     private static void sets(String lines, int value) {
         for (int v = 0; v < 6; v++) {
-            ChannelProgramRunner x = Program.ended("FUNC 0; SET v0 #40; SET v1 #41; SET v2 #42; SET v3 #43; SET v4 #44; SET v5 #45;"
+            Counted x = Program.ended("FUNC 0; SET v0 #40; SET v1 #41; SET v2 #42; SET v3 #43; SET v4 #44; SET v5 #45;"
                     + lines.replace("@", "v" + v) + "; SELECT; END; END");
             for (int w = 0; w < 6; w++) {
                 due("variable(0, " + w + ") after " + lines + " of " + v, w == v ? value : 40 + w, x.variable(0, w));
@@ -285,7 +289,7 @@ final class LinesSentences extends Sentences {
         String end = begin.startsWith("SELECT") ? "; END" : "";
         for (int a = 0; a < 6; a++) {
             for (int c = 0; c < 6; c++) {
-                ChannelProgramRunner x = Program.ended("FUNC 0; MAKE v0 1; SEND v0 #7; SET v0 #40; SET v1 #41; SET v2 #42; SET v3 #43;"
+                Counted x = Program.ended("FUNC 0; MAKE v0 1; SEND v0 #7; SET v0 #40; SET v1 #41; SET v2 #42; SET v3 #43;"
                         + "SET v4 #44; SET v5 #45;" + begin + " v" + a + " #1 v" + c + end + "; SELECT; END; END");
                 for (int w = 0; w < 6; w++) {
                     due("variable(0, " + w + ") after " + begin + " " + a + " " + c, w == c ? 1 : w == a ? 7 : 40 + w, x.variable(0, w));

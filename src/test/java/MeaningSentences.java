@@ -62,7 +62,7 @@ final class MeaningSentences extends Sentences {
             look(after(11, "FUNC 0; CALL 1 #7 #8; DEFER 2 #41 #42" + rest), dues);
         }
         // So has each of the 48 that there can be at once.
-        ChannelProgramRunner x = ends(STUCK, "", TWELVE_DEEP);
+        Counted x = ends(STUCK, "", TWELVE_DEEP);
         for (int g = 0; g < 12; g++) {
             look(x, "variable(" + g + ",0)=0 variable(" + g + ",1)=" + (12 - g) + " variable(" + g + ",2)=0 variable(" + g + ",5)=" + (12 - g));
         }
@@ -77,7 +77,7 @@ final class MeaningSentences extends Sentences {
         about("Goroutines are numbered 0 (function 0, its parameters 0), 1, .. in the order in which they are started.");
         ends(EXITED, "0 0", "FUNC 2; PRINT v0; PRINT v1; END; FUNC 0; PRINT #9; END");
         look(Program.ready("FUNC 2; END"), "variable(0,0)=0 variable(0,1)=0 waitsAt(0)=-3 waitsAt(1)=-1");
-        ChannelProgramRunner x = Program.ready("FUNC 0; SET v0 #0; LOOP #1; ADD v0 v0 #1; GO 1 v0; END; END; FUNC 1; END");
+        Counted x = Program.ready("FUNC 0; SET v0 #0; LOOP #1; ADD v0 v0 #1; GO 1 v0; END; END; FUNC 1; END");
         step(x, 2);
         for (int n = 1; n <= 11; n++) {
             look(x, "waitsAt(" + (n - 1) + ")=-3 waitsAt(" + n + ")=-1 variable(" + n + ",0)=0 notes(" + n + ")=-1");
@@ -92,7 +92,7 @@ final class MeaningSentences extends Sentences {
 
     private static void readyAndWaiting() {
         about("One is running; others are READY, in a queue, or WAITING.");
-        ChannelProgramRunner x = after(3, "FUNC 0; GO 1; GO 1; SELECT; END; END; FUNC 0; SLEEP #0; SELECT; END; END");
+        Counted x = after(3, "FUNC 0; GO 1; GO 1; SELECT; END; END; FUNC 0; SLEEP #0; SELECT; END; END");
         look(x, "waitsAt(0)=-3 waitsAt(1)=-3 waitsAt(2)=-3");
         step(x, 1);
         look(x, "waitsAt(0)=3 waitsAt(1)=-3 waitsAt(2)=-3");
@@ -143,7 +143,7 @@ final class MeaningSentences extends Sentences {
                     "FUNC 0; SET v0 #" + n + "; LOOP v0; PRINT v0; SUB v0 v0 #1; END; PRINT #9; END");
         }
         // The LOOP line is executed again: without lines it is all that is.
-        ChannelProgramRunner x = Program.ready("FUNC 0; LOOP #1; END; PRINT #1; END");
+        Counted x = Program.ready("FUNC 0; LOOP #1; END; PRINT #1; END");
         due("run(200) of an empty LOOP", RUNNING, x.run(200));
         look(x, "printed=0 waitsAt(0)=-3");
         ends(EXITED, "1", "FUNC 0; LOOP #0; END; PRINT #1; END");
@@ -179,7 +179,7 @@ final class MeaningSentences extends Sentences {
         panics(-4, "", "FUNC 0; SET v1 #8; LOOP v1; GO 1; SLEEP #0; SUB v1 v1 #1; END; MAKE v0 0; PRINT #9; END; FUNC 0; MAKE v0 0; END");
         ends(EXITED, "-4 7", "FUNC 0; CALL 1; END; FUNC 0; SET v1 #8; LOOP v1; MAKE v0 0; SUB v1 v1 #1; END; DEFER 2; MAKE v0 0; PRINT #9; END;"
                 + "FUNC 0; RECOVER v0; PRINT v0; PRINT #7; END");
-        ChannelProgramRunner x = after(12, "FUNC 0; DEFER 1;" + "MAKE v0 0;".repeat(8) + "SET v0 #5; MAKE v0 0; END; FUNC 0; SLEEP #1; END");
+        Counted x = after(12, "FUNC 0; DEFER 1;" + "MAKE v0 0;".repeat(8) + "SET v0 #5; MAKE v0 0; END; FUNC 0; SLEEP #1; END");
         look(x, "panicking(0)=1 channel(8)=0 channel(9)=-1");
         staysAsItWas("SET v1 #8; LOOP v1; MAKE v2 0; SUB v1 v1 #1; END;", "MAKE v0 0");
     }

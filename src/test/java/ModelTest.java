@@ -6,10 +6,13 @@ import java.util.List;
  * well formed and likely to run; the others are lines in any order, with wrong arguments among them.
  */
 public final class ModelTest {
-    private static final int PROGRAMS = 60000;
+    private static final int PROGRAMS = 100000;
+    /** Calls that a round needs before it begins to run, and calls of one look. */
+    private static final int ROUND = 120;
+    private static final int LOOK = 17;
     private static long seed = 20261115L;
     private static final Answers answers = new Answers();
-    private static ChannelProgramRunner x;
+    private static Counted x;
     private static Model m;
     private static String told;
     private static final int[] ended = new int[6];
@@ -17,11 +20,11 @@ public final class ModelTest {
 
     public static void main(String[] args) {
         for (int i = 0; i < PROGRAMS; i++) {
-            x = new ChannelProgramRunner();
+            x = new Counted();
             m = new Model();
             told = "";
             int rounds = 1 + below(2);
-            for (int r = 0; r < rounds; r++) {
+            for (int r = 0; r < rounds && x.left() >= ROUND; r++) {
                 if (i % 4 == 3) {
                     feedAnything();
                 } else {
@@ -257,7 +260,7 @@ public final class ModelTest {
 
     private static void checkAndRun() {
         int checks = 1 + below(8) / 7;
-        for (int i = 0; i < checks; i++) {
+        for (int i = 0; i < checks && x.left() >= 3 * LOOK; i++) {
             int want = m.check();
             checked[want]++;
             due("check()", want, x.check());
@@ -271,7 +274,7 @@ public final class ModelTest {
     private static void runOn() {
         boolean small = below(2) == 0;
         int state = 1;
-        for (int i = 0; i < 40 && state == 1; i++) {
+        for (int i = 0; i < 40 && state == 1 && x.left() >= 3 * LOOK; i++) {
             int steps = small && i < 30 ? 1 + below(3) : oneOf(0, -1, 201, 200, 200, 7);
             state = m.run(steps);
             due("run(" + steps + ")", state, x.run(steps));
@@ -281,6 +284,7 @@ public final class ModelTest {
         ended[state]++;
     }
 
+    /** Asks for a few of all that can be asked, so that an object's calls last for long runs. */
     private static void look() {
         due("badLine()", m.badLine(), x.badLine());
         due("printed()", m.printed(), x.printed());
@@ -288,14 +292,15 @@ public final class ModelTest {
         due("clock()", m.clock(), x.clock());
         int k = below(34) - 1;
         due("output(" + k + ")", m.output(k), x.output(k));
-        due("output(0)", m.output(0), x.output(0));
-        for (int g = -1; g < 13; g++) {
+        int ch = below(10);
+        due("channel(" + ch + ")", m.channel(ch), x.channel(ch));
+        for (int i = 0; i < 2; i++) {
+            int g = below(4) == 0 ? below(14) - 1 : below(4);
             due("waitsAt(" + g + ")", m.waitsAt(g), x.waitsAt(g));
             due("notes(" + g + ")", m.notes(g), x.notes(g));
             due("panicking(" + g + ")", m.panicking(g), x.panicking(g));
             int v = below(8) - 1;
             due("variable(" + g + ", " + v + ")", m.variable(g, v), x.variable(g, v));
-            due("channel(" + g + ")", m.channel(g), x.channel(g));
         }
     }
 }

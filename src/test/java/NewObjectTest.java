@@ -2,7 +2,7 @@
 public final class NewObjectTest {
     public static void main(String[] args) {
         Answers answers = new Answers();
-        ChannelProgramRunner x = new ChannelProgramRunner();
+        Counted x = new Counted();
         answers.due("badLine()", -1, x.badLine());
         answers.due("printed()", 0, x.printed());
         answers.due("panicValue()", 0, x.panicValue());

@@ -13,15 +13,15 @@ final class Program {
     private Program() {
     }
 
-    static ChannelProgramRunner fed(String text) {
-        ChannelProgramRunner x = new ChannelProgramRunner();
+    static Counted fed(String text) {
+        Counted x = new Counted();
         feed(x, text);
         return x;
     }
 
     /** A program that must pass its check and stands at its beginning. */
-    static ChannelProgramRunner ready(String text) {
-        ChannelProgramRunner x = fed(text);
+    static Counted ready(String text) {
+        Counted x = fed(text);
         int answer = x.check();
         if (answer != ChannelProgramRunner.OK) {
             throw new IllegalStateException("check answered " + answer + " at line " + x.badLine() + " of " + text);
@@ -30,20 +30,20 @@ final class Program {
     }
 
     /** A program that has run until it ended, or for 2000 steps. */
-    static ChannelProgramRunner ended(String text) {
-        ChannelProgramRunner x = ready(text);
+    static Counted ended(String text) {
+        Counted x = ready(text);
         for (int i = 0; i < 10; i++) {
             x.run(200);
         }
         return x;
     }
 
-    static void feed(ChannelProgramRunner x, String text) {
+    static void feed(Counted x, String text) {
         feed(x, text, 0);
     }
 
     /** Arguments that the text leaves out are all the same number. */
-    static void feed(ChannelProgramRunner x, String text, int leftOut) {
+    static void feed(Counted x, String text, int leftOut) {
         for (String part : text.split("[;\n]")) {
             String[] words = part.trim().split("\\s+");
             if (words[0].isEmpty()) {
@@ -72,7 +72,7 @@ final class Program {
     }
 
     /** What was printed, oldest first, at most 32 values. */
-    static String outputs(ChannelProgramRunner x) {
+    static String outputs(Counted x) {
         StringBuilder all = new StringBuilder();
         for (int k = Math.min(x.printed(), 32) - 1; k >= 0; k--) {
             all.append(all.length() == 0 ? "" : " ").append(x.output(k));

@@ -45,8 +45,8 @@ final class PromiseSentences extends Sentences {
         panicking();
     }
 
-    private static ChannelProgramRunner inState(int i) {
-        ChannelProgramRunner x = Program.ready(TEXTS[i]);
+    private static Counted inState(int i) {
+        Counted x = Program.ready(TEXTS[i]);
         x.run(200);
         look(x, "state=" + STATES[i] + " printed=1 output(0)=3 clock=" + (i == 0 ? 0 : 4) + " channel(1)=0 waitsAt(1)=" + (i == 0 ? -3 : -2)
                 + " panicValue=" + (i == 2 ? 7 : 0));
@@ -56,17 +56,17 @@ final class PromiseSentences extends Sentences {
     private static void uses() {
         about("An object is used for at most 512 calls after it has been made;");
         // The last of 512 calls is answered as any other.
-        ChannelProgramRunner x = Program.ready("FUNC 0; LOOP #1; PRINT #5; END; END");
+        Counted x = Program.ready("FUNC 0; LOOP #1; PRINT #5; END; END");
         for (int i = 0; i < 505; i++) {
             x.run(200);
         }
         due("printed() as call 512", 50499, x.printed());
-        ChannelProgramRunner y = new ChannelProgramRunner();
+        Counted y = new Counted();
         for (int i = 1; i <= 511; i++) {
             due("line() as call " + i, i <= 60, y.line(20, 6, 0, 0));
         }
         due("clear() as call 512", 60, y.clear());
-        ChannelProgramRunner z = Program.fed("FUNC 0; SLEEP 2147483647; END");
+        Counted z = Program.fed("FUNC 0; SLEEP 2147483647; END");
         for (int i = 0; i < 254; i++) {
             due("check() again", OK, z.check());
             due("run(2) again", EXITED, z.run(2));
@@ -76,7 +76,7 @@ final class PromiseSentences extends Sentences {
 
     private static void newObject() {
         about("`ChannelProgramRunner()`: No lines, nothing checked, IDLE.");
-        ChannelProgramRunner x = new ChannelProgramRunner();
+        Counted x = new Counted();
         idle(x);
         look(x, "badLine=-1");
         due("run(1)", IDLE, x.run(1));
@@ -84,16 +84,16 @@ final class PromiseSentences extends Sentences {
         due("clear()", 0, x.clear());
         idle(x);
         look(x, "badLine=-1");
-        due("check()", FORM, new ChannelProgramRunner().check());
+        due("check()", FORM, new Counted().check());
         // Two objects have nothing to do with each other.
-        ChannelProgramRunner y = Program.ended("FUNC 0; PRINT #1; END");
-        idle(new ChannelProgramRunner());
+        Counted y = Program.ended("FUNC 0; PRINT #1; END");
+        idle(new Counted());
         look(y, "state=2 printed=1");
     }
 
     private static void addsLine() {
         about("`boolean line(int kind, int a, int b, int c)`: Adds a line.");
-        ChannelProgramRunner x = new ChannelProgramRunner();
+        Counted x = new Counted();
         due("line(0, 0, 0, 0)", true, x.line(0, 0, 0, 0));
         due("line(20, 13, 0, 0)", true, x.line(20, 13, 0, 0));
         due("line(20, 14, 0, 0)", true, x.line(20, 14, 0, 0));
@@ -109,7 +109,7 @@ final class PromiseSentences extends Sentences {
 
     private static void sixtyLines() {
         about("Refused (false, nothing changes) if there are 60 lines,");
-        ChannelProgramRunner x = Program.fed("FUNC 0;" + "PRINT #1;".repeat(57));
+        Counted x = Program.fed("FUNC 0;" + "PRINT #1;".repeat(57));
         due("line 58 as the 59th", true, x.line(20, 8, 0, 0));
         due("line 59 as the 60th", true, x.line(1, 0, 0, 0));
         for (int kind = 0; kind < 30; kind++) {
@@ -142,45 +142,45 @@ final class PromiseSentences extends Sentences {
         line(true, 29, 0, 0, 0);
         // Nothing changes: neither the lines, nor what was checked, nor what runs.
         for (int i = 0; i < TEXTS.length; i++) {
-            ChannelProgramRunner x = inState(i);
+            Counted x = inState(i);
             refuseAll(x);
             inStateStill(x, i);
             due("clear() after refused lines", TEXTS[i].replaceAll("[^;]", "").length() + 1, x.clear());
         }
         for (int steps = 0; steps < 12; steps++) {
-            ChannelProgramRunner x = after(steps, TEXTS[3]);
-            refuseAll(x);
-            same("refused after " + steps, 20, x, after(steps, TEXTS[3]));
+            int n = steps;
+            same("refused after " + n, 20, () -> refuseAll(after(n, TEXTS[3])), () -> after(n, TEXTS[3]));
         }
-        ChannelProgramRunner bad = Program.fed("FUNC 0; PRINT v0; END");
+        Counted bad = Program.fed("FUNC 0; PRINT v0; END");
         due("check()", UNSET, bad.check());
         refuseAll(bad);
         look(bad, "badLine=1 state=0");
         due("check() again", UNSET, bad.check());
-        ChannelProgramRunner fresh = new ChannelProgramRunner();
+        Counted fresh = new Counted();
         refuseAll(fresh);
         look(fresh, "badLine=-1 state=0");
         due("clear() of none", 0, fresh.clear());
     }
 
-    private static void refuseAll(ChannelProgramRunner x) {
+    private static Counted refuseAll(Counted x) {
         for (int[] r : REFUSED) {
             due("line(" + r[0] + ", " + r[1] + ", " + r[2] + ", " + r[3] + ")", false, x.line(r[0], r[1], r[2], r[3]));
         }
+        return x;
     }
 
-    private static void inStateStill(ChannelProgramRunner x, int i) {
-        ChannelProgramRunner y = inState(i);
-        due("run(0)", y.run(0), x.run(0));
-        same("state " + STATES[i], 3, x, y);
-        look(x, "state=" + STATES[i] + " badLine=-1 printed=1 output(0)=3 channel(1)=0 clock=" + y.clock() + " panicValue=" + y.panicValue()
-                + " waitsAt(0)=" + y.waitsAt(0) + " notes(0)=" + y.notes(0) + " variable(0,0)=" + y.variable(0, 0));
+    private static void inStateStill(Counted x, int i) {
+        Counted y = inState(i);
+        look(x, "state=" + STATES[i] + " badLine=-1");
+        alike("state " + STATES[i], x, y);
+        due("run(1)", y.run(1), x.run(1));
+        alike("state " + STATES[i] + " and a step", x, y);
     }
 
     private static void acceptedLineEnds() {
         about("An accepted line ends what was checked and run: IDLE, no goroutines, no channels, nothing printed, panicValue 0, the clock 0.");
         for (int i = 0; i < TEXTS.length; i++) {
-            ChannelProgramRunner x = inState(i);
+            Counted x = inState(i);
             due("line(0, 0, 0, 0)", true, x.line(0, 0, 0, 0));
             idle(x);
             due("run(1)", IDLE, x.run(1));
@@ -191,12 +191,12 @@ final class PromiseSentences extends Sentences {
             look(x, "state=" + STATES[i] + " printed=1");
         }
         // Ready to run but not yet run.
-        ChannelProgramRunner y = Program.ready("FUNC 0; END");
+        Counted y = Program.ready("FUNC 0; END");
         look(y, "state=1");
         y.line(0, 0, 0, 0);
         idle(y);
         // While notes are called and goroutines wait.
-        ChannelProgramRunner z = after(5, "FUNC 0; GO 1; DEFER 1; PANIC #7; END; FUNC 0; SELECT; END; END");
+        Counted z = after(5, "FUNC 0; GO 1; DEFER 1; PANIC #7; END; FUNC 0; SELECT; END; END");
         look(z, "panicking(0)=1 waitsAt(1)=-3");
         z.line(0, 0, 0, 0);
         idle(z);
@@ -205,7 +205,7 @@ final class PromiseSentences extends Sentences {
     private static void clears() {
         about("`int clear()`: Removes all lines; answers how many there were.");
         for (int n : new int[] {0, 1, 2, 59, 60, 61}) {
-            ChannelProgramRunner x = new ChannelProgramRunner();
+            Counted x = new Counted();
             for (int i = 0; i < n; i++) {
                 x.line(17, 0, 0, 0);
             }
@@ -215,7 +215,7 @@ final class PromiseSentences extends Sentences {
             look(x, "badLine=0");
         }
         // Nothing of the old lines is left.
-        ChannelProgramRunner y = Program.ended("FUNC 0; IF #0; PRINT #1; ELSE; CALL 1; END; END; FUNC 0; LOOP #1; BREAK; END; SELECT; CASESEND #1 #1; DEFAULT; END; END");
+        Counted y = Program.ended("FUNC 0; IF #0; PRINT #1; ELSE; CALL 1; END; END; FUNC 0; LOOP #1; BREAK; END; SELECT; CASESEND #1 #1; DEFAULT; END; END");
         y.clear();
         Program.feed(y, "FUNC 0; PRINT #2; END");
         due("check() of other lines", OK, y.check());
@@ -229,7 +229,7 @@ final class PromiseSentences extends Sentences {
     private static void clearEnds() {
         about("IDLE as after an accepted line.");
         for (int i = 0; i < TEXTS.length; i++) {
-            ChannelProgramRunner x = inState(i);
+            Counted x = inState(i);
             x.clear();
             idle(x);
             due("run(1)", IDLE, x.run(1));
@@ -237,7 +237,7 @@ final class PromiseSentences extends Sentences {
             idle(x);
         }
         // Also if there was no line.
-        ChannelProgramRunner y = new ChannelProgramRunner();
+        Counted y = new Counted();
         y.clear();
         idle(y);
     }
@@ -299,20 +299,23 @@ final class PromiseSentences extends Sentences {
         String ready = "state=1 badLine=-1 waitsAt(0)=-3 waitsAt(1)=-1 notes(0)=0 panicking(0)=0 variable(0,0)=0 channel(1)=-1 printed=0 output(0)=0 panicValue=0 clock=0";
         for (int i = 0; i < TEXTS.length; i++) {
             look(Program.ready(TEXTS[i]), ready);
-            ChannelProgramRunner x = inState(i);
-            due("check() again", OK, x.check());
-            look(x, ready);
-            same("again after state " + STATES[i], 30, x, Program.ready(TEXTS[i]));
+            int n = i;
+            look(checkedAgain(inState(n)), ready);
+            same("again after state " + STATES[n], 30, () -> checkedAgain(inState(n)), () -> Program.ready(TEXTS[n]));
         }
         // In the middle, after any number of steps: sleeping ones, full channels, notes, panics are all gone.
         String text = "FUNC 0; MAKE v0 1; MAKE v1 0; SEND v0 #5; GO 1 v0 v1; GO 1 v1 v0; DEFER 2; SLEEP #2; CLOSE v1; SLEEP #9; PRINT #4; PANIC #7; END;"
                 + "FUNC 2; DEFER 2; SELECT; CASESEND v0 #1; CASESEND v1 #2; CASERECV v2 #7 v3; AFTER #5; END; PRINT #8; END; FUNC 0; RECOVER v5; SLEEP #1; PRINT v5; END";
         for (int steps = 0; steps <= 40; steps++) {
-            ChannelProgramRunner x = after(steps, text);
-            due("check() after " + steps + " steps", OK, x.check());
-            look(x, ready);
-            same("again after " + steps + " steps", 60, x, Program.ready(text));
+            int n = steps;
+            look(checkedAgain(after(n, text)), ready);
+            same("again after " + n + " steps", 60, () -> checkedAgain(after(n, text)), () -> Program.ready(text));
         }
+    }
+
+    private static Counted checkedAgain(Counted x) {
+        due("check() again", OK, x.check());
+        return x;
     }
 
     private static void idleOtherwise() {
@@ -320,7 +323,7 @@ final class PromiseSentences extends Sentences {
         String[] wrong = {"", "FUNC 0; PRINT #1", "FUNC 0; CALL 1; END", "FUNC 0; PRINT v0; END"};
         int[] want = {FORM, FORM, CALLEE, UNSET};
         for (int i = 0; i < wrong.length; i++) {
-            ChannelProgramRunner x = Program.fed(wrong[i]);
+            Counted x = Program.fed(wrong[i]);
             due("check() of " + wrong[i], want[i], x.check());
             idle(x);
             due("run(1) of " + wrong[i], IDLE, x.run(1));
@@ -333,7 +336,7 @@ final class PromiseSentences extends Sentences {
 
     private static void badLine() {
         about("`int badLine()`: The line found by the latest check;");
-        ChannelProgramRunner x = Program.fed("FUNC 0; PRINT v0");
+        Counted x = Program.fed("FUNC 0; PRINT v0");
         x.check();
         look(x, "badLine=2");
         x.line(1, 0, 0, 0);
@@ -349,7 +352,7 @@ final class PromiseSentences extends Sentences {
         x.check();
         look(x, "badLine=2");
         about("-1 if that answered OK or there was none.");
-        look(new ChannelProgramRunner(), "badLine=-1");
+        look(new Counted(), "badLine=-1");
         look(Program.fed("FUNC 0"), "badLine=-1");
         look(Program.ready("FUNC 0; END"), "badLine=-1");
         look(Program.ended("FUNC 0; PANIC #5; END"), "badLine=-1");
@@ -367,12 +370,12 @@ final class PromiseSentences extends Sentences {
         String loop = "FUNC 0; SET v0 #0; LOOP #1; ADD v0 v0 #1; PRINT v0; END; END";
         // Two steps, then three to each value printed.
         for (int steps : new int[] {1, 2, 3, 4, 5, 6, 199, 200}) {
-            ChannelProgramRunner x = Program.ready(loop);
+            Counted x = Program.ready(loop);
             due("run(" + steps + ")", RUNNING, x.run(steps));
             look(x, "printed=" + (steps - 2) / 3 + " variable(0,0)=" + (steps - 1) / 3);
         }
         // Many short runs are one long run.
-        ChannelProgramRunner y = Program.ready(loop);
+        Counted y = Program.ready(loop);
         for (int i = 0; i < 200; i++) {
             y.run(1);
         }
@@ -391,34 +394,35 @@ final class PromiseSentences extends Sentences {
         about("Nothing changes if the state is not RUNNING or steps is outside 1..200.");
         int[] wrong = {0, -1, -200, 201, 202, 400, LEAST, MOST};
         for (int steps : wrong) {
-            ChannelProgramRunner x = Program.ready(TEXTS[0]);
-            due("run(" + steps + ") at the beginning", RUNNING, x.run(steps));
-            same("after run(" + steps + ")", 20, x, Program.ready(TEXTS[0]));
-            ChannelProgramRunner y = after(4, TEXTS[1]);
-            due("run(" + steps + ") in the middle", RUNNING, y.run(steps));
-            same("after run(" + steps + ")", 20, y, after(4, TEXTS[1]));
+            same("after run(" + steps + ")", 20, () -> runsOn(Program.ready(TEXTS[0]), steps), () -> Program.ready(TEXTS[0]));
+            same("after run(" + steps + ")", 20, () -> runsOn(after(4, TEXTS[1]), steps), () -> after(4, TEXTS[1]));
             for (int i = 1; i < TEXTS.length; i++) {
-                ChannelProgramRunner z = inState(i);
+                Counted z = inState(i);
                 due("run(" + steps + ") at the end", STATES[i], z.run(steps));
                 inStateStill(z, i);
             }
-            due("run(" + steps + ") of a new object", IDLE, new ChannelProgramRunner().run(steps));
+            due("run(" + steps + ") of a new object", IDLE, new Counted().run(steps));
         }
         for (int steps : new int[] {1, 2, 199, 200}) {
             for (int i = 1; i < TEXTS.length; i++) {
-                ChannelProgramRunner z = inState(i);
+                Counted z = inState(i);
                 due("run(" + steps + ") at the end", STATES[i], z.run(steps));
                 inStateStill(z, i);
             }
-            ChannelProgramRunner w = Program.fed("FUNC 0; PRINT #1; END");
+            Counted w = Program.fed("FUNC 0; PRINT #1; END");
             due("run(" + steps + ") without a check", IDLE, w.run(steps));
             idle(w);
         }
     }
 
+    private static Counted runsOn(Counted x, int steps) {
+        due("run(" + steps + ")", RUNNING, x.run(steps));
+        return x;
+    }
+
     private static void printed() {
         about("`int printed()`: The number of values printed.");
-        ChannelProgramRunner x = after(1, "FUNC 0; LOOP #1; PRINT #5; END; END");
+        Counted x = after(1, "FUNC 0; LOOP #1; PRINT #5; END; END");
         for (int n = 0; n <= 70; n++) {
             due("printed()", n, x.printed());
             step(x, 2);
@@ -431,15 +435,15 @@ final class PromiseSentences extends Sentences {
     private static void output() {
         about("`int output(int k)`: The k-th value printed counted from the latest (0), if k is 0..31 and there are so many; else 0.");
         // Value n is printed as the n-th, 1 the first.
-        ChannelProgramRunner x = after(2, "FUNC 0; SET v0 #0; LOOP #1; ADD v0 v0 #1; PRINT v0; END; END");
+        Counted x = null;
         for (int n = 0; n <= 100; n++) {
+            x = after(2 + 3 * n, "FUNC 0; SET v0 #0; LOOP #1; ADD v0 v0 #1; PRINT v0; END; END");
             for (int k = -2; k <= 34; k++) {
                 due("output(" + k + ") of " + n, k >= 0 && k <= 31 && k < n ? n - k : 0, x.output(k));
             }
             for (int k : FAR) {
                 due("output(" + k + ") of " + n, 0, x.output(k));
             }
-            step(x, 3);
         }
         // What an earlier run has printed is not there any more.
         x.check();
@@ -453,7 +457,7 @@ final class PromiseSentences extends Sentences {
         for (int i = 0; i < TEXTS.length; i++) {
             due("panicValue() in state " + STATES[i], STATES[i] == PANICKED ? 7 : 0, inState(i).panicValue());
         }
-        due("panicValue() of a new object", 0, new ChannelProgramRunner().panicValue());
+        due("panicValue() of a new object", 0, new Counted().panicValue());
         for (int value : new int[] {LEAST, -1}) {
             panics(value, "", "FUNC 0; PANIC " + value + "; END");
         }
@@ -469,8 +473,8 @@ final class PromiseSentences extends Sentences {
 
     private static void clock() {
         about("`long clock()`: The clock.");
-        look(new ChannelProgramRunner(), "clock=0");
-        ChannelProgramRunner x = Program.ready("FUNC 0; LOOP #1; SLEEP 2147483647; END; END");
+        look(new Counted(), "clock=0");
+        Counted x = Program.ready("FUNC 0; LOOP #1; SLEEP 2147483647; END; END");
         x.run(1);
         for (long n = 0; n < 100; n++) {
             due("clock()", n * 2147483641L, x.clock());
@@ -483,7 +487,7 @@ final class PromiseSentences extends Sentences {
     private static void waitsAt() {
         about("`int waitsAt(int g)`: Where goroutine g is: -1 there is none of that number,");
         String twelve = "FUNC 0; SET v0 #11; LOOP v0; GO 1; SUB v0 v0 #1; END; SELECT; END; END; FUNC 0; SELECT; END; END";
-        ChannelProgramRunner x = after(70, twelve);
+        Counted x = after(70, twelve);
         look(x, "waitsAt(-1)=-1 waitsAt(0)=6 waitsAt(11)=10 waitsAt(12)=-1 waitsAt(13)=-1");
         for (int g : FAR) {
             due("waitsAt(" + g + ")", -1, x.waitsAt(g));
@@ -519,7 +523,7 @@ final class PromiseSentences extends Sentences {
         about("`int variable(int g, int v)`: Variable v of the topmost activation of goroutine g; 0 if there is none or v is outside 0..5.");
         String text = "FUNC 0; SET v0 #40; SET v1 #41; SET v2 #42; SET v3 #43; SET v4 #44; SET v5 #45; GO 1 #50 #51; CALL 2 #60 #61; SLEEP #1; SELECT; END; END;"
                 + "FUNC 2; SELECT; END; END; FUNC 2; SLEEP #1; END";
-        ChannelProgramRunner x = after(8, text);
+        Counted x = after(8, text);
         look(x, "variable(0,-1)=0 variable(0,0)=40 variable(0,1)=41 variable(0,2)=42 variable(0,3)=43 variable(0,4)=44 variable(0,5)=45 variable(0,6)=0");
         look(x, "variable(-1,0)=0 variable(-1,5)=0 variable(1,0)=50 variable(1,1)=51 variable(1,2)=0 variable(1,6)=0 variable(1,-1)=0 variable(2,0)=0 variable(12,0)=0");
         for (int n : FAR) {
@@ -538,7 +542,7 @@ final class PromiseSentences extends Sentences {
         look(x, "state=4 variable(0,0)=40 variable(1,0)=50");
         // What a called one has left behind, or another goroutine has, is out of reach.
         look(x, "variable(0,6)=0 variable(0,7)=0 variable(0,-1)=0 variable(1,-1)=0 variable(1,-2)=0");
-        ChannelProgramRunner all = ends(STUCK, "", TWELVE_DEEP);
+        Counted all = ends(STUCK, "", TWELVE_DEEP);
         for (int g = 0; g < 12; g++) {
             look(all, "variable(" + g + ",5)=" + (12 - g) + " variable(" + g + ",6)=0 variable(" + g + ",7)=0 variable(" + g + ",-1)=0 variable(" + g + ",-2)=0");
         }
@@ -559,17 +563,17 @@ final class PromiseSentences extends Sentences {
                 look(ends(EXITED, "", text.replace("@", "CLOSE v0;")), "channel(1)=" + (fill + 8) + " channel(0)=-1 channel(2)=-1 channel(-1)=-1");
             }
         }
-        ChannelProgramRunner x = ends(EXITED, "", "FUNC 0;" + "MAKE v0 3;".repeat(8) + "SEND v0 #1; CLOSE #1; END");
+        Counted x = ends(EXITED, "", "FUNC 0;" + "MAKE v0 3;".repeat(8) + "SEND v0 #1; CLOSE #1; END");
         look(x, "channel(0)=-1 channel(1)=8 channel(2)=0 channel(7)=0 channel(8)=1 channel(9)=-1");
         for (int ch : FAR) {
             due("channel(" + ch + ")", -1, x.channel(ch));
         }
-        look(new ChannelProgramRunner(), "channel(0)=-1 channel(1)=-1");
+        look(new Counted(), "channel(0)=-1 channel(1)=-1");
         look(after(1, "FUNC 0; MAKE v0 0; END"), "channel(1)=-1");
         // Values of those that wait to send are not in it.
         look(Program.ended("FUNC 0; MAKE v0 0; SEND v0 #1; END"), "channel(1)=0");
         // A closed one that is emptied.
-        ChannelProgramRunner y = after(5, "FUNC 0; MAKE v0 3; SEND v0 #1; SEND v0 #1; CLOSE v0; RECV v1 v0 v2; RECV v1 v0 v2; RECV v1 v0 v2; SELECT; END; END");
+        Counted y = after(5, "FUNC 0; MAKE v0 3; SEND v0 #1; SEND v0 #1; CLOSE v0; RECV v1 v0 v2; RECV v1 v0 v2; RECV v1 v0 v2; SELECT; END; END");
         look(y, "channel(1)=10");
         step(y, 1);
         look(y, "channel(1)=9");
@@ -582,7 +586,7 @@ final class PromiseSentences extends Sentences {
     private static void notes() {
         about("`int notes(int g)`: How many notes the topmost activation of goroutine g has; -1 if there is none.");
         String text = "FUNC 0; GO 1; DEFER 2; DEFER 2; DEFER 2; CALL 1; SELECT; END; END; FUNC 0; DEFER 2; SLEEP #1; END; FUNC 0; END";
-        ChannelProgramRunner x = after(1, text);
+        Counted x = after(1, text);
         look(x, "notes(-1)=-1 notes(0)=0 notes(1)=-1 notes(12)=-1");
         step(x, 1);
         look(x, "notes(0)=0 notes(1)=0 notes(2)=-1");
@@ -602,14 +606,14 @@ final class PromiseSentences extends Sentences {
         }
         look(x, "state=4 notes(0)=3 notes(1)=-1");
         look(ends(EXITED, "", "FUNC 0; DEFER 1; END; FUNC 0; END"), "notes(0)=-1");
-        look(new ChannelProgramRunner(), "notes(0)=-1");
+        look(new Counted(), "notes(0)=-1");
     }
 
     private static void panicking() {
         about("`int panicking(int g)`: How many activations of goroutine g panic now (their notes are being called); 0 if there is none.");
         String text = "FUNC 0; GO 4; DEFER 1; PANIC #1; END; FUNC 0; DEFER 2; PANIC #2; END; FUNC 0; DEFER 3; PANIC #3; END;"
                 + "FUNC 0; RECOVER v0; SLEEP #0; END; FUNC 0; DEFER 5; PANIC #9; END; FUNC 0; SELECT; END; END";
-        ChannelProgramRunner x = after(3, text);
+        Counted x = after(3, text);
         look(x, "panicking(0)=0 panicking(1)=0 panicking(2)=0 panicking(-1)=0 panicking(12)=0");
         step(x, 1);
         look(x, "panicking(0)=1 panicking(1)=0");
@@ -632,7 +636,7 @@ final class PromiseSentences extends Sentences {
         // Leaving without panic does not count, nor what was recovered.
         look(after(3, "FUNC 0; DEFER 1; RETURN; END; FUNC 0; SLEEP #1; END"), "panicking(0)=0 state=1");
         look(after(5, "FUNC 0; DEFER 1; PANIC #7; END; FUNC 0; RECOVER v0; SLEEP #1; END"), "panicking(0)=0 state=1");
-        look(new ChannelProgramRunner(), "panicking(0)=0");
+        look(new Counted(), "panicking(0)=0");
         look(panics(7, "", "FUNC 0; PANIC #7; END"), "panicking(0)=0");
     }
 }

@@ -23,7 +23,7 @@ public final class RunTest {
 
     /** The number of single steps until the program is no longer RUNNING. */
     private static void dueSteps(int want, String text) {
-        ChannelProgramRunner x = Program.ready(text);
+        Counted x = Program.ready(text);
         int count = 0;
         int state = RUNNING;
         while (state == RUNNING && count < 400) {
@@ -57,7 +57,7 @@ public final class RunTest {
         dueSteps(2, "FUNC 0; SELECT; AFTER #5; END; END");
         dueSteps(2, "FUNC 0; SELECT; END; PRINT #1; END");
 
-        ChannelProgramRunner x = Program.ready("FUNC 0; PRINT #1; PRINT #2; PRINT #3; END");
+        Counted x = Program.ready("FUNC 0; PRINT #1; PRINT #2; PRINT #3; END");
         answers.due("run(1)", RUNNING, x.run(1));
         answers.due("printed() after the FUNC", 0, x.printed());
         answers.due("run(2)", RUNNING, x.run(2));
@@ -65,7 +65,7 @@ public final class RunTest {
         answers.due("run(1) to the end", EXITED, x.run(1));
         answers.due("printed() at the end", 3, x.printed());
 
-        ChannelProgramRunner y = Program.ready("FUNC 0; LOOP #1; PRINT #1; END; END");
+        Counted y = Program.ready("FUNC 0; LOOP #1; PRINT #1; END; END");
         answers.due("run(200) in a loop", RUNNING, y.run(200));
         answers.due("printed() after 200 steps", 99, y.printed());
         answers.due("run(1) in a loop", RUNNING, y.run(1));
@@ -73,7 +73,7 @@ public final class RunTest {
     }
 
     private static void wrongSteps() {
-        ChannelProgramRunner x = Program.ready("FUNC 0; PRINT #1; LOOP #1; END; END");
+        Counted x = Program.ready("FUNC 0; PRINT #1; LOOP #1; END; END");
         int[] wrong = {0, -1, 201, 2147483647, -2147483648};
         for (int steps : wrong) {
             answers.due("run(" + steps + ")", RUNNING, x.run(steps));
@@ -85,7 +85,7 @@ public final class RunTest {
         int[] ends = {EXITED, PANICKED, STUCK, OVERFLOW};
         String[] texts = {"RETURN", "PANIC #9", "SELECT; END", "CALL 0"};
         for (int i = 0; i < ends.length; i++) {
-            ChannelProgramRunner y = Program.ended("FUNC 0; PRINT #4;" + texts[i] + "; END");
+            Counted y = Program.ended("FUNC 0; PRINT #4;" + texts[i] + "; END");
             int printed = y.printed();
             answers.due("state by " + texts[i], ends[i], y.run(200));
             answers.due("state stays by " + texts[i], ends[i], y.run(1));
@@ -127,7 +127,7 @@ public final class RunTest {
         dueResult(-2147483648, "SUB v5 -2147483647 #1");
         dueResult(1, "MUL v5 2147483647 2147483647; ADD v5 #0 #1");
         dueResult((2147483647 - 6) * 5, "MUL v5 2147483647 #5");
-        ChannelProgramRunner x = runs.panic(-3, "3", "FUNC 0; SET v5 #3; PRINT v5; DIV v5 #1 #0; PRINT v5; END");
+        Counted x = runs.panic(-3, "3", "FUNC 0; SET v5 #3; PRINT v5; DIV v5 #1 #0; PRINT v5; END");
         answers.due("variable(0, 5) after the panic", 0, x.variable(0, 5));
     }
 
@@ -149,11 +149,11 @@ public final class RunTest {
     private static void calls() {
         runs.due(EXITED, "1 5 6 2", "FUNC 0; PRINT #1; CALL 1 #5 #6; PRINT #2; END; FUNC 2; PRINT v0; PRINT v1; END");
         // Only as many OPERANDs as there are parameters are given.
-        ChannelProgramRunner x = Program.ready("FUNC 0; CALL 1 #5 #6; END; FUNC 1; SLEEP #0; END");
+        Counted x = Program.ready("FUNC 0; CALL 1 #5 #6; END; FUNC 1; SLEEP #0; END");
         x.run(3);
         answers.due("variable 0 of the called one", 5, x.variable(0, 0));
         answers.due("variable 1 of the called one", 0, x.variable(0, 1));
-        ChannelProgramRunner y = Program.ready("FUNC 0; CALL 1 #5 #6; END; FUNC 0; SLEEP #0; END");
+        Counted y = Program.ready("FUNC 0; CALL 1 #5 #6; END; FUNC 0; SLEEP #0; END");
         y.run(3);
         answers.due("variable 0 without parameters", 0, y.variable(0, 0));
         // Variables are an activation's own, and new each time.
@@ -162,7 +162,7 @@ public final class RunTest {
         runs.due(EXITED, "0 0", "FUNC 2; PRINT v0; PRINT v1; END");
         // The constant 0 is not the variable of another activation.
         runs.due(EXITED, "0", "FUNC 0; CALL 1 #5; PRINT #0; END; FUNC 1; END");
-        ChannelProgramRunner w = Program.ready("FUNC 0; CALL 1; CALL 2; END; FUNC 0; SET v0 #1; SET v3 #2; SET v5 #3; END; FUNC 0; SLEEP #1; END");
+        Counted w = Program.ready("FUNC 0; CALL 1; CALL 2; END; FUNC 0; SET v0 #1; SET v3 #2; SET v5 #3; END; FUNC 0; SLEEP #1; END");
         w.run(7);
         for (int v = 0; v < 6; v++) {
             answers.due("variable(0, " + v + ") of a new activation", 0, w.variable(0, v));
@@ -170,7 +170,7 @@ public final class RunTest {
         runs.due(OVERFLOW, "1 1 1 1", "FUNC 0; PRINT #1; CALL 0; END");
         runs.due(EXITED, "2 1 0 8 8 9", "FUNC 0; CALL 1 #2; PRINT #9; END;"
                 + "FUNC 1; PRINT v0; IF v0; SUB v0 v0 #1; CALL 1 v0; PRINT #8; END; END");
-        ChannelProgramRunner z = runs.due(OVERFLOW, "3 2 1", "FUNC 0; CALL 1 #3; END;"
+        Counted z = runs.due(OVERFLOW, "3 2 1", "FUNC 0; CALL 1 #3; END;"
                 + "FUNC 1; PRINT v0; SUB v1 v0 #1; CALL 1 v1; PRINT #8; END");
         answers.due("waitsAt(0) after OVERFLOW", -3, z.waitsAt(0));
         answers.due("variable(0, 0) after OVERFLOW", 1, z.variable(0, 0));
@@ -182,22 +182,22 @@ public final class RunTest {
         runs.due(EXITED, "1 2 5 6 3", "FUNC 0; PRINT #1; GO 1 #5; GO 1 #6; PRINT #2; SLEEP #0; PRINT #3; END;"
                 + "FUNC 1; PRINT v0; END");
         // The others just stop when goroutine 0 ends.
-        ChannelProgramRunner x = runs.due(EXITED, "1", "FUNC 0; GO 1 #5; PRINT #1; END; FUNC 1; PRINT v0; END");
+        Counted x = runs.due(EXITED, "1", "FUNC 0; GO 1 #5; PRINT #1; END; FUNC 1; PRINT v0; END");
         answers.due("waitsAt(0) after EXITED", -2, x.waitsAt(0));
         answers.due("waitsAt(1) after EXITED", -3, x.waitsAt(1));
         answers.due("waitsAt(2) after EXITED", -1, x.waitsAt(2));
         answers.due("variable(1, 0) after EXITED", 5, x.variable(1, 0));
         // Eleven can be started beside goroutine 0, however many of them have ended.
         String starts = "FUNC 0; SET v0 #0; LOOP #1; ADD v0 v0 #1; PRINT v0; GO 1; ";
-        ChannelProgramRunner y = runs.panic(-2, "1 2 3 4 5 6 7 8 9 10 11 12", starts + "END; END; FUNC 0; END");
+        Counted y = runs.panic(-2, "1 2 3 4 5 6 7 8 9 10 11 12", starts + "END; END; FUNC 0; END");
         answers.due("waitsAt(11)", -3, y.waitsAt(11));
         answers.due("waitsAt(12)", -1, y.waitsAt(12));
-        ChannelProgramRunner z = runs.panic(-2, "1 2 3 4 5 6 7 8 9 10 11 12",
+        Counted z = runs.panic(-2, "1 2 3 4 5 6 7 8 9 10 11 12",
                 starts + "SLEEP #0; END; END; FUNC 0; END");
         answers.due("waitsAt(11) that ended", -2, z.waitsAt(11));
         answers.due("waitsAt(12) of none", -1, z.waitsAt(12));
         // A goroutine's panic ends the program.
-        ChannelProgramRunner p = runs.panic(6, "", "FUNC 0; GO 1; SELECT; END; END; FUNC 0; PANIC #6; END");
+        Counted p = runs.panic(6, "", "FUNC 0; GO 1; SELECT; END; END; FUNC 0; PANIC #6; END");
         answers.due("waitsAt(0) after a panic of 1", 2, p.waitsAt(0));
         answers.due("waitsAt(1) after its panic", -2, p.waitsAt(1));
         answers.due("notes(1) after its panic", -1, p.notes(1));
@@ -205,14 +205,14 @@ public final class RunTest {
         runs.due(EXITED, "3 3", "FUNC 0; GO 1 #3; CALL 1 #2; SLEEP #0; END;"
                 + "FUNC 1; IF v0; SUB v0 v0 #1; CALL 1 v0; ELSE; PRINT #3; END; END");
         // In a stuck program, the ended ones are told apart from the waiting ones.
-        ChannelProgramRunner s = runs.due(STUCK, "", "FUNC 0; GO 1; GO 2; SELECT; END; END; FUNC 0; END; FUNC 0; RECV v0 #0 v0; END");
+        Counted s = runs.due(STUCK, "", "FUNC 0; GO 1; GO 2; SELECT; END; END; FUNC 0; END; FUNC 0; RECV v0 #0 v0; END");
         answers.due("waitsAt(0) when stuck", 3, s.waitsAt(0));
         answers.due("waitsAt(1) when stuck", -2, s.waitsAt(1));
         answers.due("waitsAt(2) when stuck", 9, s.waitsAt(2));
     }
 
     private static void outputs() {
-        ChannelProgramRunner x = Program.ready("FUNC 0; SET v0 #0; LOOP #1; ADD v0 v0 #1; PRINT v0; END; END");
+        Counted x = Program.ready("FUNC 0; SET v0 #0; LOOP #1; ADD v0 v0 #1; PRINT v0; END; END");
         x.run(2 + 3 * 31);
         answers.due("printed() of 31", 31, x.printed());
         answers.due("output(30) of 31", 1, x.output(30));
@@ -239,7 +239,7 @@ public final class RunTest {
     }
 
     private static void variables() {
-        ChannelProgramRunner x = Program.ready("FUNC 0; SET v5 #4; CALL 1 #8; SET v5 #6; SLEEP #1; END; FUNC 1; SET v5 #5; SLEEP #1; END");
+        Counted x = Program.ready("FUNC 0; SET v5 #4; CALL 1 #8; SET v5 #6; SLEEP #1; END; FUNC 1; SET v5 #5; SLEEP #1; END");
         x.run(2);
         answers.due("variable(0, 5) of the caller", 4, x.variable(0, 5));
         x.run(3);

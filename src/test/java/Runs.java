@@ -6,8 +6,8 @@ final class Runs {
         this.answers = answers;
     }
 
-    ChannelProgramRunner due(int state, String outputs, String text) {
-        ChannelProgramRunner x = Program.ended(text);
+    Counted due(int state, String outputs, String text) {
+        Counted x = Program.ended(text);
         answers.due("state of " + text, state, x.run(0));
         String got = Program.outputs(x);
         if (!got.equals(outputs)) {
@@ -17,8 +17,8 @@ final class Runs {
         return x;
     }
 
-    ChannelProgramRunner panic(int value, String outputs, String text) {
-        ChannelProgramRunner x = due(ChannelProgramRunner.PANICKED, outputs, text);
+    Counted panic(int value, String outputs, String text) {
+        Counted x = due(ChannelProgramRunner.PANICKED, outputs, text);
         answers.due("panicValue() of " + text, value, x.panicValue());
         return x;
     }

@@ -124,7 +124,7 @@ final class SelectSentences extends Sentences {
         about("and its section is entered.");
         ends(EXITED, "2 9", none.replace("ACT", "SEND v0 #5") + receives.replace("END; END", "END; PRINT #9; END"));
         // At once its VARs are set; it goes on when it becomes the running one.
-        ChannelProgramRunner x = after(6, none.replace("ACT", "SEND v0 #5") + receives);
+        Counted x = after(6, none.replace("ACT", "SEND v0 #5") + receives);
         look(x, "waitsAt(1)=8 variable(1,1)=0");
         step(x, 1);
         look(x, "waitsAt(1)=-3 variable(1,1)=5 variable(1,2)=1 variable(1,3)=0 variable(1,4)=0 printed=0");

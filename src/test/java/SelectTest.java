@@ -23,7 +23,7 @@ public final class SelectTest {
         runs.panic(-1, "", "FUNC 0; MAKE v0 1; CLOSE v0; SELECT; CASESEND v0 #1; PRINT #1; DEFAULT; PRINT #2; END; END");
         runs.due(EXITED, "3", "FUNC 0; MAKE v0 1; CLOSE v0; SELECT; CASERECV v1 v0 v2; PRINT #3; CASESEND v0 #1; PRINT #1; END; END");
         // Only the chosen case is done.
-        ChannelProgramRunner x = Program.ready("FUNC 0; MAKE v0 3; MAKE v1 3; SELECT; CASESEND v0 #1; CASESEND v0 #2; CASESEND v1 #3; END; SLEEP #1; END");
+        Counted x = Program.ready("FUNC 0; MAKE v0 3; MAKE v1 3; SELECT; CASESEND v0 #1; CASESEND v0 #2; CASESEND v1 #3; END; SLEEP #1; END");
         x.run(4);
         answers.due("channel(1)", 1, x.channel(1));
         answers.due("channel(2)", 0, x.channel(2));
@@ -46,9 +46,9 @@ public final class SelectTest {
         runs.due(EXITED, "1 2", "FUNC 0; GO 1; SELECT; AFTER #0; PRINT #1; END; SELECT; DEFAULT; PRINT #2; END; END; FUNC 0; PRINT #9; END");
         // What a DEFAULT has in a is not looked at.
         runs.due(EXITED, "1", "FUNC 0; SELECT; DEFAULT 20; PRINT #1; END; END");
-        ChannelProgramRunner x = runs.due(STUCK, "", "FUNC 0; SELECT; END; PRINT #1; END");
+        Counted x = runs.due(STUCK, "", "FUNC 0; SELECT; END; PRINT #1; END");
         answers.due("waitsAt(0) at an empty SELECT", 1, x.waitsAt(0));
-        ChannelProgramRunner y = runs.due(STUCK, "", "FUNC 0; MAKE v0 0; SELECT; CASERECV v1 v0 v2; PRINT #1; CASESEND v0 #1; PRINT #2; CASESEND #7 #1; END; END");
+        Counted y = runs.due(STUCK, "", "FUNC 0; MAKE v0 0; SELECT; CASERECV v1 v0 v2; PRINT #1; CASESEND v0 #1; PRINT #2; CASESEND #7 #1; END; END");
         answers.due("waitsAt(0) at a SELECT", 2, y.waitsAt(0));
     }
 
@@ -69,7 +69,7 @@ public final class SelectTest {
         runs.due(EXITED, "3 1", "FUNC 0; MAKE v0 0; GO 1 v0; SLEEP #0; RECV v1 v0 v2; PRINT v1; SLEEP #0; END;"
                 + "FUNC 1; SELECT; CASESEND v0 #3; PRINT #1; CASESEND v0 #4; PRINT #2; END; END");
         // Its VARs are set at once, its section is entered when it runs.
-        ChannelProgramRunner x = Program.ready(SERVED + "SEND v0 #44;" + SELECTS);
+        Counted x = Program.ready(SERVED + "SEND v0 #44;" + SELECTS);
         x.run(7);
         answers.due("waitsAt(1) when waiting", 9, x.waitsAt(1));
         x.run(1);
@@ -80,19 +80,19 @@ public final class SelectTest {
         runs.due(EXITED, "1 2 3", "FUNC 0; MAKE v0 0; GO 1 v0 #1; GO 2 v0 #2; GO 1 v0 #3; SLEEP #0; SEND v0 #0; SEND v0 #0; SEND v0 #0; SLEEP #0; END;"
                 + "FUNC 2; RECV v2 v0 v3; PRINT v1; END; FUNC 2; SELECT; CASERECV v2 #9 v3; CASERECV v2 v0 v3; PRINT v1; END; END");
         // A waiting CASESEND's value is added to a channel with room again.
-        ChannelProgramRunner y = runs.due(STUCK, "1 2", "FUNC 0; MAKE v0 1; GO 1 v0; SLEEP #0; RECV v1 v0 v2; PRINT v1; RECV v1 v0 v2; PRINT v1; SELECT; END; END;"
+        Counted y = runs.due(STUCK, "1 2", "FUNC 0; MAKE v0 1; GO 1 v0; SLEEP #0; RECV v1 v0 v2; PRINT v1; RECV v1 v0 v2; PRINT v1; SELECT; END; END;"
                 + "FUNC 1; SEND v0 #1; SELECT; CASESEND v0 #2; END; END");
         answers.due("waitsAt(1) at the end", -2, y.waitsAt(1));
     }
 
     private static void isServedOnce() {
         // Served by one case, it waits for the others no more.
-        ChannelProgramRunner x = runs.due(STUCK, "1 44 1 5", SERVED + "SEND v0 #44; SEND v1 #45;" + SELECTS);
+        Counted x = runs.due(STUCK, "1 44 1 5", SERVED + "SEND v0 #44; SEND v1 #45;" + SELECTS);
         answers.due("waitsAt(0)", 6, x.waitsAt(0));
         answers.due("waitsAt(1)", -2, x.waitsAt(1));
         runs.due(EXITED, "1 44 1 5", SERVED + "SEND v0 #44; CLOSE v0; CLOSE v1;" + SELECTS);
         // Nor for its AFTER.
-        ChannelProgramRunner y = runs.due(STUCK, "1", "FUNC 0; MAKE v0 0; GO 1 v0; SLEEP #0; SEND v0 #1; SELECT; END; END;"
+        Counted y = runs.due(STUCK, "1", "FUNC 0; MAKE v0 0; GO 1 v0; SLEEP #0; SEND v0 #1; SELECT; END; END;"
                 + "FUNC 1; SELECT; CASERECV v1 v0 v2; PRINT #1; AFTER #7; PRINT #2; END; SELECT; END; END");
         answers.due("clock()", 0, y.clock());
     }

@@ -1,3 +1,4 @@
+import java.util.function.Supplier;
 import java.util.regex.Matcher;
 import java.util.regex.Pattern;
 
@@ -45,11 +46,11 @@ abstract class Sentences {
     }
 
     static void line(boolean want, int kind, int a, int b, int c) {
-        due("line(" + kind + ", " + a + ", " + b + ", " + c + ")", want, new ChannelProgramRunner().line(kind, a, b, c));
+        due("line(" + kind + ", " + a + ", " + b + ", " + c + ")", want, new Counted().line(kind, a, b, c));
     }
 
     static void check(int want, int bad, String text) {
-        ChannelProgramRunner x = Program.fed(text);
+        Counted x = Program.fed(text);
         due("check() of " + text, want, x.check());
         due("badLine() of " + text, bad, x.badLine());
     }
@@ -59,35 +60,35 @@ abstract class Sentences {
         check(want, bad, "FUNC 0;" + lines + ";END");
     }
 
-    static ChannelProgramRunner ends(int state, String outputs, String text) {
-        ChannelProgramRunner x = Program.ended(text);
+    static Counted ends(int state, String outputs, String text) {
+        Counted x = Program.ended(text);
         due("state of " + text, state, x.run(0));
         String got = Program.outputs(x);
         due("[" + got + "] printed, due is [" + outputs + "] by " + text, true, got.equals(outputs));
         return x;
     }
 
-    static ChannelProgramRunner panics(int value, String outputs, String text) {
-        ChannelProgramRunner x = ends(PANICKED, outputs, text);
+    static Counted panics(int value, String outputs, String text) {
+        Counted x = ends(PANICKED, outputs, text);
         due("panicValue() of " + text, value, x.panicValue());
         return x;
     }
 
     /** The program after so many steps, made one by one. */
-    static ChannelProgramRunner after(int steps, String text) {
-        ChannelProgramRunner x = Program.ready(text);
+    static Counted after(int steps, String text) {
+        Counted x = Program.ready(text);
         step(x, steps);
         return x;
     }
 
-    static void step(ChannelProgramRunner x, int steps) {
+    static void step(Counted x, int steps) {
         for (int i = 0; i < steps; i++) {
             x.run(1);
         }
     }
 
     /** Asks what is written like this: waitsAt(0)=-3 variable(0,5)=7 state=1. */
-    static void look(ChannelProgramRunner x, String dues) {
+    static void look(Counted x, String dues) {
         for (String part : dues.trim().split("\\s+")) {
             Matcher m = DUE.matcher(part);
             if (!m.matches()) {
@@ -99,7 +100,7 @@ abstract class Sentences {
         }
     }
 
-    private static long ask(ChannelProgramRunner x, String call, int first, int second) {
+    private static long ask(Counted x, String call, int first, int second) {
         switch (call) {
             case "state": return x.run(0);
             case "badLine": return x.badLine();
@@ -116,29 +117,35 @@ abstract class Sentences {
         }
     }
 
-    /** Two programs that must answer the same, step by step, until they end or for so many steps. */
-    static void same(String what, int steps, ChannelProgramRunner x, ChannelProgramRunner y) {
+    /** Two that must answer the same after each number of steps, until they end or up to so many steps; each time they are made anew. */
+    static void same(String what, int steps, Supplier<Counted> made, Supplier<Counted> like) {
         int state = RUNNING;
-        for (int i = 0; i < steps && state == RUNNING; i++) {
-            state = y.run(1);
-            due(what + ": state", state, x.run(1));
-            due(what + ": printed()", y.printed(), x.printed());
-            due(what + ": panicValue()", y.panicValue(), x.panicValue());
-            due(what + ": clock()", y.clock(), x.clock());
-            for (int g = 0; g < 12; g++) {
-                due(what + ": output(" + g + ")", y.output(g), x.output(g));
-                due(what + ": channel(" + g + ")", y.channel(g), x.channel(g));
-                due(what + ": waitsAt(" + g + ")", y.waitsAt(g), x.waitsAt(g));
-                due(what + ": notes(" + g + ")", y.notes(g), x.notes(g));
-                due(what + ": panicking(" + g + ")", y.panicking(g), x.panicking(g));
-                for (int v = 0; v < 6; v++) {
-                    due(what + ": variable(" + g + "," + v + ")", y.variable(g, v), x.variable(g, v));
-                }
+        for (int i = 1; i <= steps && state == RUNNING; i++) {
+            Counted x = made.get();
+            Counted y = like.get();
+            state = y.run(i);
+            due(what + ": run(" + i + ")", state, x.run(i));
+            alike(what + ", " + i + " steps", x, y);
+        }
+    }
+
+    static void alike(String what, Counted x, Counted y) {
+        due(what + ": printed()", y.printed(), x.printed());
+        due(what + ": panicValue()", y.panicValue(), x.panicValue());
+        due(what + ": clock()", y.clock(), x.clock());
+        for (int g = 0; g < 12; g++) {
+            due(what + ": output(" + g + ")", y.output(g), x.output(g));
+            due(what + ": channel(" + g + ")", y.channel(g), x.channel(g));
+            due(what + ": waitsAt(" + g + ")", y.waitsAt(g), x.waitsAt(g));
+            due(what + ": notes(" + g + ")", y.notes(g), x.notes(g));
+            due(what + ": panicking(" + g + ")", y.panicking(g), x.panicking(g));
+            for (int v = 0; v < 6; v++) {
+                due(what + ": variable(" + g + "," + v + ")", y.variable(g, v), x.variable(g, v));
             }
         }
     }
 
-    static void idle(ChannelProgramRunner x) {
+    static void idle(Counted x) {
         look(x, "state=0 printed=0 output(0)=0 output(31)=0 panicValue=0 clock=0 waitsAt(0)=-1 waitsAt(1)=-1 waitsAt(11)=-1"
                 + " variable(0,0)=0 variable(1,1)=0 channel(1)=-1 channel(8)=-1 notes(0)=-1 notes(1)=-1 panicking(0)=0");
     }

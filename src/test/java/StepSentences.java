@@ -11,7 +11,7 @@ final class StepSentences extends Sentences {
     }
 
     private static void steps(int want, String text) {
-        ChannelProgramRunner x = Program.ready(text);
+        Counted x = Program.ready(text);
         int count = 0;
         while (count < 400 && x.run(0) == RUNNING) {
             x.run(1);
@@ -19,7 +19,7 @@ final class StepSentences extends Sentences {
         }
         due("steps of " + text, want, count);
         // In one run of so many steps, and one fewer does not do.
-        ChannelProgramRunner y = Program.ready(text);
+        Counted y = Program.ready(text);
         due("run(" + want + ") of " + text, x.run(0), y.run(want));
         if (want > 1) {
             due("run(" + (want - 1) + ") of " + text, RUNNING, Program.ready(text).run(want - 1));
@@ -55,7 +55,7 @@ final class StepSentences extends Sentences {
         steps(5, "FUNC 0; CALL 1; CALL 1; END; FUNC 0; END");
         steps(5, "FUNC 0; DEFER 1; DEFER 1; END; FUNC 0; END");
         steps(4, "FUNC 0; GO 1; SLEEP #0; END; FUNC 0; END");
-        ChannelProgramRunner x = Program.ready("FUNC 2; PRINT #1; END");
+        Counted x = Program.ready("FUNC 2; PRINT #1; END");
         look(x, "state=1 waitsAt(0)=-3 notes(0)=0 printed=0");
         step(x, 1);
         look(x, "state=1 waitsAt(0)=-3 notes(0)=0 printed=0 variable(0,0)=0");
@@ -71,17 +71,28 @@ final class StepSentences extends Sentences {
         // All four activations leave within the step of the last line.
         String down = "FUNC 0; CALL 1; END; FUNC 0; CALL 2; END; FUNC 0; CALL 3; END; FUNC 0; PRINT #1; END";
         steps(8, down);
-        ChannelProgramRunner x = after(7, down);
+        Counted x = after(7, down);
         look(x, "state=1 printed=0 waitsAt(0)=-3 notes(0)=0");
         step(x, 1);
         look(x, "state=2 printed=1 waitsAt(0)=-2 notes(0)=-1");
         // Only as far as there is no line to execute, and no note to call.
-        ChannelProgramRunner y = after(8, "FUNC 0; SET v0 #1; CALL 1; END; FUNC 0; SET v0 #2; CALL 2; PRINT #1; END; FUNC 0; SET v0 #3; END");
+        Counted y = after(8, "FUNC 0; SET v0 #1; CALL 1; END; FUNC 0; SET v0 #2; CALL 2; PRINT #1; END; FUNC 0; SET v0 #3; END");
         look(y, "variable(0,0)=2 printed=0 state=1");
         step(y, 1);
         look(y, "printed=1 state=2");
-        ChannelProgramRunner z = after(7, "FUNC 0; CALL 1; END; FUNC 0; DEFER 3; CALL 2; END; FUNC 0; END; FUNC 0; SLEEP #1; END");
+        Counted z = after(7, "FUNC 0; CALL 1; END; FUNC 0; DEFER 3; CALL 2; END; FUNC 0; END; FUNC 0; SLEEP #1; END");
         look(z, "state=1 notes(0)=0");
+        // Past the ELSE or the next section, to the END, from whatever line is the last of a part.
+        String[] last = {"PRINT #7", "CALL 1", "SLEEP #1", "SLEEP #0", "IF #0; END", "LOOP #0; END", "LOOP #1; BREAK; END", "SELECT; DEFAULT; END", "SELECT; AFTER #1; END",
+            "SEND #1 #5", "SELECT; CASESEND #1 #5; END", "GO 1", "DEFER 2", "RECOVER v5"};
+        for (String line : last) {
+            String printed = line.startsWith("PRINT") || line.startsWith("CALL") ? "7 8" : "8";
+            String rest = "; PRINT #8; END; FUNC 0; PRINT #7; END; FUNC 0; END";
+            ends(EXITED, printed, "FUNC 0; MAKE v0 1; IF #1;" + line + "; ELSE; PRINT #6; END" + rest);
+            ends(EXITED, printed, "FUNC 0; MAKE v0 1; SELECT; DEFAULT;" + line + "; CASESEND #0 #1; PRINT #6; END" + rest);
+            ends(EXITED, printed, "FUNC 0; MAKE v0 1; SELECT; CASESEND #0 #1; PRINT #6; AFTER #1;" + line + "; CASERECV v1 #0 v1; PRINT #6; END" + rest);
+            ends(EXITED, printed, "FUNC 0; MAKE v0 1; SET v1 #1; LOOP v1; SET v1 #0; IF #0; ELSE;" + line + "; END; END" + rest);
+        }
         // A panic goes down within the step, too.
         look(after(6, "FUNC 0; CALL 1; END; FUNC 0; CALL 2; END; FUNC 0; PANIC #7; END"), "state=3 panicValue=7");
         look(after(5, "FUNC 0; CALL 1; END; FUNC 0; CALL 2; END; FUNC 0; PANIC #7; END"), "state=1 panicValue=0 panicking(0)=0");
@@ -95,7 +106,7 @@ final class StepSentences extends Sentences {
         // At the line after a CALL.
         look(after(4, "FUNC 0; SET v5 #1; CALL 1 #4; PRINT #1; END; FUNC 1; END"), "variable(0,0)=0 variable(0,5)=1 printed=0 state=1");
         // In a section.
-        ChannelProgramRunner x = after(2, "FUNC 0; SELECT; DEFAULT; PRINT #1; END; END");
+        Counted x = after(2, "FUNC 0; SELECT; DEFAULT; PRINT #1; END; END");
         look(x, "state=1 printed=0");
         step(x, 1);
         look(x, "state=2 printed=1");
@@ -111,7 +122,7 @@ final class StepSentences extends Sentences {
         look(after(4, "FUNC 0; GO 1; SELECT; END; END; FUNC 0; END"), "state=4 waitsAt(1)=-2");
         about("else it moves on in the same way from the line at which it waited.");
         // 0 is served but has not moved on: it ends in the step in which 1 lets it run.
-        ChannelProgramRunner x = after(5, "FUNC 0; MAKE v0 0; GO 1 v0; RECV v1 v0 v2; END; FUNC 1; SEND v0 #5; PRINT #1; SLEEP #0; END");
+        Counted x = after(5, "FUNC 0; MAKE v0 0; GO 1 v0; RECV v1 v0 v2; END; FUNC 1; SEND v0 #5; PRINT #1; SLEEP #0; END");
         look(x, "state=1 waitsAt(0)=3");
         step(x, 1);
         look(x, "state=1 waitsAt(0)=-3 variable(0,1)=5 notes(0)=0");
@@ -123,7 +134,7 @@ final class StepSentences extends Sentences {
         look(after(7, "FUNC 0; GO 1; GO 1; SELECT; END; END; FUNC 0; SLEEP #4; END"), "state=1 clock=0 waitsAt(0)=3 waitsAt(1)=7 waitsAt(2)=-3");
         look(after(8, "FUNC 0; GO 1; GO 1; SELECT; END; END; FUNC 0; SLEEP #4; END"), "state=4 clock=4 waitsAt(0)=3 waitsAt(1)=-2 waitsAt(2)=-2");
         // From the section that was chosen while it waited.
-        ChannelProgramRunner y = after(2, "FUNC 0; SELECT; AFTER #4; PRINT #1; END; END");
+        Counted y = after(2, "FUNC 0; SELECT; AFTER #4; PRINT #1; END; END");
         look(y, "state=1 clock=4 printed=0");
         step(y, 1);
         look(y, "state=2 printed=1");
@@ -135,7 +146,7 @@ final class StepSentences extends Sentences {
         look(after(7, text), "state=1 waitsAt(1)=-3 panicValue=0");
         look(after(8, text), "state=3 waitsAt(1)=-2 waitsAt(0)=-3 panicValue=-1 printed=0");
         // With a note, it stands at the note's FUNC line.
-        ChannelProgramRunner x = after(9, "FUNC 0; MAKE v0 0; GO 1 v0; SLEEP #0; CLOSE v0; SLEEP #0; PRINT #1; END; FUNC 1; DEFER 2; SEND v0 #1; PRINT #2; END; FUNC 0; PRINT #3; RECOVER v0; END");
+        Counted x = after(9, "FUNC 0; MAKE v0 0; GO 1 v0; SLEEP #0; CLOSE v0; SLEEP #0; PRINT #1; END; FUNC 1; DEFER 2; SEND v0 #1; PRINT #2; END; FUNC 0; PRINT #3; RECOVER v0; END");
         look(x, "state=1 panicking(1)=1 printed=0");
         step(x, 2);
         look(x, "state=1 panicking(1)=1 printed=1 output(0)=3");

@@ -12,7 +12,7 @@ final class TimeSentences extends Sentences {
 
     private static void startsAtZero() {
         about("TIME: a clock, a long, 0 at first.");
-        look(new ChannelProgramRunner(), "clock=0");
+        look(new Counted(), "clock=0");
         look(Program.ready("FUNC 0; SLEEP #5; END"), "clock=0");
         // Past what an int can hold.
         long most = 2147483641L;
@@ -81,30 +81,30 @@ final class TimeSentences extends Sentences {
     private static void passes() {
         about("Time passes only when the running one ends or waits and the queue is empty:");
         // As long as somebody runs, it doesn't.
-        ChannelProgramRunner x = Program.ready("FUNC 0; GO 1; SLEEP #1; PRINT #1; END; FUNC 0; LOOP #1; END; END");
+        Counted x = Program.ready("FUNC 0; GO 1; SLEEP #1; PRINT #1; END; FUNC 0; LOOP #1; END; END");
         step(x, 3);
         for (int i = 0; i < 5; i++) {
             due("run(200) while another one runs", RUNNING, x.run(200));
             look(x, "clock=0 waitsAt(0)=2 printed=0");
         }
         // Two that go to the queue by turns keep it from passing; so does one alone.
-        ChannelProgramRunner y = Program.ready("FUNC 0; GO 1; GO 1; SLEEP #1; PRINT #1; END; FUNC 0; LOOP #1; SLEEP #0; END; END");
+        Counted y = Program.ready("FUNC 0; GO 1; GO 1; SLEEP #1; PRINT #1; END; FUNC 0; LOOP #1; SLEEP #0; END; END");
         due("run(200) of two by turns", RUNNING, y.run(200));
         look(y, "clock=0 waitsAt(0)=3 printed=0");
-        ChannelProgramRunner z = Program.ready("FUNC 0; GO 1; SLEEP #1; PRINT #1; END; FUNC 0; LOOP #1; SLEEP #0; END; END");
+        Counted z = Program.ready("FUNC 0; GO 1; SLEEP #1; PRINT #1; END; FUNC 0; LOOP #1; SLEEP #0; END; END");
         due("run(200) of one alone", RUNNING, z.run(200));
         look(z, "clock=0 waitsAt(0)=2 printed=0");
         // It passes in the very step in which the running one ends, and in which it waits.
-        ChannelProgramRunner ended = after(4, "FUNC 0; GO 1; SLEEP #4; PRINT #1; END; FUNC 0; PRINT #2; END");
+        Counted ended = after(4, "FUNC 0; GO 1; SLEEP #4; PRINT #1; END; FUNC 0; PRINT #2; END");
         look(ended, "clock=0 waitsAt(0)=2");
         step(ended, 1);
         look(ended, "clock=4 waitsAt(0)=-3 waitsAt(1)=-2 printed=1");
-        ChannelProgramRunner waits = after(4, "FUNC 0; GO 1; SLEEP #4; PRINT #1; END; FUNC 0; SELECT; END; END");
+        Counted waits = after(4, "FUNC 0; GO 1; SLEEP #4; PRINT #1; END; FUNC 0; SELECT; END; END");
         look(waits, "clock=0 waitsAt(0)=2");
         step(waits, 1);
         look(waits, "clock=4 waitsAt(0)=-3 waitsAt(1)=6");
         // Somebody else in the queue comes first.
-        ChannelProgramRunner queued = after(5, "FUNC 0; GO 1; GO 1; SLEEP #4; PRINT #1; END; FUNC 0; END");
+        Counted queued = after(5, "FUNC 0; GO 1; GO 1; SLEEP #4; PRINT #1; END; FUNC 0; END");
         look(queued, "clock=0 waitsAt(0)=3 waitsAt(1)=-2 waitsAt(2)=-3");
         step(queued, 1);
         look(queued, "clock=4 waitsAt(0)=-3 waitsAt(1)=-2 waitsAt(2)=-2");
@@ -121,7 +121,7 @@ final class TimeSentences extends Sentences {
         // Goroutine 3 began first to wait until 6, then 1, then 2, then 0.
         look(ends(EXITED, "3 1 2 0", "FUNC 0; GO 1 #1 #1; GO 1 #2 #2; GO 2 #6 #3; SLEEP #3; SLEEP #3; PRINT #0; END;"
                 + "FUNC 2; SLEEP v0; SUB v0 #6 v0; SLEEP v0; PRINT v1; END; FUNC 2; SLEEP v0; PRINT v1; END"), "clock=6");
-        ChannelProgramRunner x = after(11, "FUNC 0; GO 1 #4 #1; GO 1 #5 #2; GO 1 #4 #3; SLEEP #4; PRINT #9; END;" + sleeper);
+        Counted x = after(11, "FUNC 0; GO 1 #4 #1; GO 1 #5 #2; GO 1 #4 #3; SLEEP #4; PRINT #9; END;" + sleeper);
         look(x, "clock=4 waitsAt(0)=-3 waitsAt(1)=-3 waitsAt(2)=8 waitsAt(3)=-3");
         // SLEEP and SELECT alike.
         ends(EXITED, "1 2 3", "FUNC 0; GO 1 #4 #1; GO 2 #4 #2; GO 1 #4 #3; SLEEP #5; END;" + sleeper + "; FUNC 2; SELECT; AFTER v0; PRINT v1; END; END");

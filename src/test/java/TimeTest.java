@@ -17,7 +17,7 @@ public final class TimeTest {
     }
 
     private static void dueClock(long want, int state, String outputs, String text) {
-        ChannelProgramRunner x = runs.due(state, outputs, text);
+        Counted x = runs.due(state, outputs, text);
         answers.due("clock() of " + text, want, x.clock());
     }
 
@@ -27,7 +27,7 @@ public final class TimeTest {
         dueClock(0, EXITED, "1", "FUNC 0; SLEEP #0; PRINT #1; END");
         dueClock(0, EXITED, "1", "FUNC 0; SLEEP -7; PRINT #1; END");
         dueClock(0, EXITED, "1", "FUNC 0; SLEEP -2147483648; PRINT #1; END");
-        ChannelProgramRunner x = Program.ready("FUNC 0; GO 1; SLEEP #5; PRINT #1; END; FUNC 0; LOOP #1; END; END");
+        Counted x = Program.ready("FUNC 0; GO 1; SLEEP #5; PRINT #1; END; FUNC 0; LOOP #1; END; END");
         x.run(3);
         answers.due("waitsAt(0) when sleeping", 2, x.waitsAt(0));
         x.run(200);
@@ -40,7 +40,7 @@ public final class TimeTest {
         runs.due(EXITED, "1 5 2 6", "FUNC 0; GO 1; PRINT #1; SLEEP #0; PRINT #2; SLEEP -1; END; FUNC 0; PRINT #5; SLEEP #0; PRINT #6; END");
         // Behind those that are in the queue already.
         runs.due(EXITED, "1 2 3", "FUNC 0; GO 1 #1; GO 1 #2; SLEEP #0; PRINT #3; END; FUNC 1; PRINT v0; END");
-        ChannelProgramRunner x = Program.ready("FUNC 0; GO 1; SLEEP #0; END; FUNC 0; SLEEP #1; END");
+        Counted x = Program.ready("FUNC 0; GO 1; SLEEP #0; END; FUNC 0; SLEEP #1; END");
         x.run(3);
         answers.due("waitsAt(0) in the queue", -3, x.waitsAt(0));
     }
@@ -69,7 +69,7 @@ public final class TimeTest {
         dueClock(3, STUCK, "1 44", "FUNC 0; MAKE v0 0; GO 1 v0; SLEEP #3; SEND v0 #44; SELECT; END; END; FUNC 1; SELECT; CASERECV v1 v0 v2; PRINT #1; PRINT v1; AFTER #7; PRINT #2; END; SELECT; END; END");
         // After its time it can be served no more.
         dueClock(7, STUCK, "2", "FUNC 0; MAKE v0 0; GO 1 v0; SLEEP #7; SEND v0 #44; PRINT #9; END; FUNC 1; SELECT; CASERECV v1 v0 v2; PRINT #1; AFTER #6; PRINT #2; END; END");
-        ChannelProgramRunner x = Program.ready("FUNC 0; MAKE v0 0; GO 1 v0; SLEEP #7; SEND v0 #44; PRINT #9; END; FUNC 1; SELECT; CASERECV v1 v0 v2; PRINT #1; AFTER #6; PRINT #2; END; END");
+        Counted x = Program.ready("FUNC 0; MAKE v0 0; GO 1 v0; SLEEP #7; SEND v0 #44; PRINT #9; END; FUNC 1; SELECT; CASERECV v1 v0 v2; PRINT #1; AFTER #6; PRINT #2; END; END");
         x.run(5);
         answers.due("waitsAt(1) before the step", -3, x.waitsAt(1));
         answers.due("clock() before the step", 0, x.clock());
@@ -85,7 +85,7 @@ public final class TimeTest {
         // Who is READY runs before the time passes.
         runs.due(EXITED, "5 6 1", "FUNC 0; GO 1; SLEEP #1; PRINT #1; END; FUNC 0; PRINT #5; SLEEP #0; PRINT #6; END");
         // The earliest time only; others go on waiting.
-        ChannelProgramRunner x = Program.ready("FUNC 0; GO 1 #4; GO 1 #8; SLEEP #6; SLEEP #6; END; FUNC 1; SLEEP v0; END");
+        Counted x = Program.ready("FUNC 0; GO 1 #4; GO 1 #8; SLEEP #6; SLEEP #6; END; FUNC 1; SLEEP v0; END");
         x.run(8);
         answers.due("clock() at first", 6, x.clock());
         answers.due("waitsAt(1) at first", -2, x.waitsAt(1));
@@ -101,7 +101,7 @@ public final class TimeTest {
     private static void grows() {
         long most = 2147483647L - 6;
         dueClock(3 * most, EXITED, "", "FUNC 0; SLEEP 2147483647; SLEEP 2147483647; SELECT; AFTER 2147483647; END; END");
-        ChannelProgramRunner x = Program.ready("FUNC 0; LOOP #1; SLEEP 2147483647; END; END");
+        Counted x = Program.ready("FUNC 0; LOOP #1; SLEEP 2147483647; END; END");
         answers.due("run(1)", RUNNING, x.run(1));
         answers.due("run(200)", RUNNING, x.run(200));
         answers.due("clock() after a hundred", 100 * most, x.clock());
